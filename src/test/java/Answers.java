@@ -1,0 +1,50 @@
+/** All that an object answers without being changed, as a text. */
+final class Answers {
+    private Answers() {
+    }
+
+    static String of(AttributeKinds x) {
+        StringBuilder text = new StringBuilder();
+        text.append("circular ").append(circular(x));
+        text.append(" strong ").append(x.strong());
+        text.append(" doubly ").append(x.doubly());
+        text.append(" passes ").append(x.passes(false));
+        text.append(" by turns ").append(x.passes(true)).append('\n');
+        for (int s = 0; graphs(x, s) != null; s++) {
+            text.append("symbol ").append(s).append(": graphs ").append(graphs(x, s)).append('\n');
+            for (int a = 0; attribute(x, s, a) != null; a++) {
+                text.append("  ").append(a).append(": ").append(attribute(x, s, a)).append('\n');
+            }
+        }
+        return text.toString();
+    }
+
+    static String circular(AttributeKinds x) {
+        try {
+            return String.valueOf(x.circular());
+        } catch (UnsupportedOperationException e) {
+            return "unsupported";
+        }
+    }
+
+    /** Null if there is no such symbol. */
+    static String graphs(AttributeKinds x, int symbol) {
+        try {
+            return String.valueOf(x.graphs(symbol));
+        } catch (UnsupportedOperationException e) {
+            return "unsupported";
+        } catch (IndexOutOfBoundsException e) {
+            return null;
+        }
+    }
+
+    /** Null if there is no such attribute. */
+    private static String attribute(AttributeKinds x, int symbol, int a) {
+        try {
+            return "U " + x.relation(symbol, a, false) + " V " + x.relation(symbol, a, true)
+                    + " pass " + x.pass(symbol, a, false) + " by turns " + x.pass(symbol, a, true);
+        } catch (IndexOutOfBoundsException e) {
+            return null;
+        }
+    }
+}

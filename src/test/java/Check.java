@@ -1,0 +1,62 @@
+/** Counts and prints the answers that are not as due, and ends the program by them. */
+final class Check {
+    private static int wrong = 0;
+
+    interface Call {
+        void run();
+    }
+
+    private Check() {
+    }
+
+    static void same(String call, long got, long due) {
+        if (got != due) {
+            fail(call + " answered " + got + ", due is " + due);
+        }
+    }
+
+    static void same(String call, boolean got, boolean due) {
+        if (got != due) {
+            fail(call + " answered " + got + ", due is " + due);
+        }
+    }
+
+    static void same(String what, String got, String due) {
+        if (!got.equals(due)) {
+            fail(what + " is\n" + got + "\ndue is\n" + due);
+        }
+    }
+
+    /** That a call throws just this class of exception. */
+    static void refused(String call, Class<? extends RuntimeException> due, Call run) {
+        try {
+            run.run();
+            fail(call + " threw nothing, due is " + due.getSimpleName());
+        } catch (RuntimeException e) {
+            if (e.getClass() != due) {
+                fail(call + " threw " + e.getClass().getSimpleName()
+                        + ", due is " + due.getSimpleName());
+            }
+        }
+    }
+
+    /** That a call throws this, and that nothing that the object answers differs then. */
+    static void refusedUnchanged(
+            AttributeKinds x, String call, Class<? extends RuntimeException> due, Call run) {
+        String before = Answers.of(x);
+        refused(call, due, run);
+        same("what is answered behind " + call, Answers.of(x), before);
+    }
+
+    static void fail(String what) {
+        wrong++;
+        System.out.println(what);
+    }
+
+    static void end() {
+        if (wrong != 0) {
+            System.out.println(wrong + " wrong");
+            System.exit(1);
+        }
+    }
+}

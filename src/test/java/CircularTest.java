@@ -1,0 +1,91 @@
+/** Promise 7: circular. */
+final class CircularTest {
+    private static final int NONE = AttributeKinds.NONE;
+
+    public static void main(String[] args) {
+        free();
+        underTheRoot();
+        ofAnySymbol();
+        onlyWithTrees();
+        roundTwoParts();
+        tooMany();
+        Check.end();
+    }
+
+    private static void free() {
+        Check.same("circular()", Samples.freeButNotStrongly().circular(), false);
+        Check.same("circular()", Samples.stronglyButNotDoubly().circular(), false);
+        Check.same("circular()", Samples.chain(1, 2).circular(), false);
+    }
+
+    private static void underTheRoot() {
+        AttributeKinds x = Samples.freeButNotStrongly();
+        x.depend(1, 3, 1);
+        Check.same("circular()", x.circular(), true);
+        x.clear();
+        Check.same("circular() behind clear()", x.circular(), false);
+    }
+
+    /** No tree of the root has the circle. */
+    private static void ofAnySymbol() {
+        AttributeKinds x = new AttributeKinds();
+        x.symbol(0, 0);
+        x.symbol(2, 1);
+        x.symbol(0, 0);
+        x.production(0, NONE, NONE, NONE);
+        int leaf = x.production(1, NONE, NONE, NONE);
+        int top = x.production(2, 1, NONE, NONE);
+        x.depend(top, 8, 9);
+        Check.same("circular()", x.circular(), false);
+        x.depend(leaf, 1, 0);
+        Check.same("circular()", x.circular(), true);
+    }
+
+    /** The production with the circle has a part without trees. */
+    private static void onlyWithTrees() {
+        AttributeKinds x = new AttributeKinds();
+        x.symbol(0, 0);
+        x.symbol(2, 1);
+        x.symbol(0, 0);
+        int leaf = x.production(1, NONE, NONE, NONE);
+        int top = x.production(0, 1, 2, NONE);
+        x.depend(leaf, 1, 0);
+        x.depend(top, 8, 9);
+        Check.same("circular()", x.circular(), false);
+        Check.same("strong()", x.strong(), true);
+        Check.same("doubly()", x.doubly(), true);
+        x.production(2, NONE, NONE, NONE);
+        Check.same("circular()", x.circular(), true);
+        Check.same("strong()", x.strong(), false);
+        Check.same("doubly()", x.doubly(), false);
+    }
+
+    private static void roundTwoParts() {
+        AttributeKinds x = new AttributeKinds();
+        x.symbol(0, 0);
+        x.symbol(2, 1);
+        int leaf = x.production(1, NONE, NONE, NONE);
+        int top = x.production(0, 1, 1, 1);
+        x.depend(leaf, 1, 0);
+        x.depend(top, 24, 9);
+        x.depend(top, 16, 25);
+        Check.same("circular()", x.circular(), false);
+        x.depend(top, 8, 17);
+        Check.same("circular()", x.circular(), true);
+    }
+
+    private static void tooMany() {
+        AttributeKinds x = Samples.leaves(11);
+        Check.refusedUnchanged(x, "circular()", UnsupportedOperationException.class,
+                () -> x.circular());
+        int top = x.production(0, 1, NONE, NONE);
+        x.depend(top, 8, 11);
+        Check.refusedUnchanged(x, "circular() with a circle", UnsupportedOperationException.class,
+                () -> x.circular());
+        AttributeKinds ten = Samples.leaves(10);
+        Check.same("circular()", ten.circular(), false);
+        ten.production(0, 1, NONE, NONE);
+        ten.depend(10, 8, 11);
+        Check.same("circular()", ten.circular(), true);
+    }
+}

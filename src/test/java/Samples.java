@@ -1,0 +1,73 @@
+/** Grammars that several tests look at. */
+final class Samples {
+    static final int NONE = AttributeKinds.NONE;
+
+    private Samples() {
+    }
+
+    /** Root 0 with up 0 only; symbol 1 with down 0, 1 and up 2, 3. */
+    static AttributeKinds pair() {
+        AttributeKinds x = new AttributeKinds();
+        x.symbol(1, 0);
+        x.symbol(4, 3);
+        return x;
+    }
+
+    /** Two trees of symbol 1, each with a graph of one step; under the root no tree has a circle. */
+    static AttributeKinds freeButNotStrongly() {
+        AttributeKinds x = pair();
+        int top = x.production(0, 1, NONE, NONE);
+        int one = x.production(1, NONE, NONE, NONE);
+        int other = x.production(1, NONE, NONE, NONE);
+        x.depend(one, 2, 0);
+        x.depend(other, 3, 1);
+        x.depend(top, 9, 10);
+        x.depend(top, 8, 11);
+        return x;
+    }
+
+    /** Two places above symbol 1, each with one step down on up; together they go round. */
+    static AttributeKinds stronglyButNotDoubly() {
+        AttributeKinds x = pair();
+        int above = x.production(0, 1, NONE, NONE);
+        int elsewhere = x.production(0, 1, NONE, NONE);
+        int leaf = x.production(1, NONE, NONE, NONE);
+        x.depend(leaf, 2, 0);
+        x.depend(leaf, 3, 1);
+        x.depend(above, 9, 10);
+        x.depend(elsewhere, 8, 11);
+        return x;
+    }
+
+    /** A symbol 1 with three down and three up, and so many leaves, each with another graph. */
+    static AttributeKinds leaves(int graphs) {
+        AttributeKinds x = new AttributeKinds();
+        x.symbol(1, 0);
+        x.symbol(6, 7);
+        for (int i = 0; i < graphs; i++) {
+            int leaf = x.production(1, NONE, NONE, NONE);
+            for (int bit = 0; bit < 4; bit++) {
+                if ((i >> bit & 1) != 0) {
+                    x.depend(leaf, 3 + bit / 3, bit % 3);
+                }
+            }
+        }
+        return x;
+    }
+
+    /** Symbol 1 (down 0, up 1) of two of its kind, one's down on the up of the other. */
+    static AttributeKinds chain(int from, int to) {
+        AttributeKinds x = new AttributeKinds();
+        x.symbol(1, 0);
+        x.symbol(2, 1);
+        int top = x.production(0, 1, NONE, NONE);
+        int both = x.production(1, 1, 1, NONE);
+        int leaf = x.production(1, NONE, NONE, NONE);
+        x.depend(top, 0, 9);
+        x.depend(both, 8 * from, 0);
+        x.depend(both, 8 * to, 8 * from + 1);
+        x.depend(both, 1, 8 * to + 1);
+        x.depend(leaf, 1, 0);
+        return x;
+    }
+}

@@ -1,0 +1,73 @@
+/** Promise 3: symbol. */
+final class SymbolTest {
+    private static final Class<IllegalArgumentException> ILLEGAL = IllegalArgumentException.class;
+    private static final Class<UnsupportedOperationException> FULL =
+            UnsupportedOperationException.class;
+
+    public static void main(String[] args) {
+        theRoot();
+        others();
+        eight();
+        Check.end();
+    }
+
+    private static void refuse(
+            AttributeKinds x, Class<? extends RuntimeException> due, int attributes, int down) {
+        Check.refusedUnchanged(x, "symbol(" + attributes + ", " + down + ")", due,
+                () -> x.symbol(attributes, down));
+    }
+
+    private static void theRoot() {
+        for (int attributes = 0; attributes <= 6; attributes++) {
+            AttributeKinds x = new AttributeKinds();
+            for (int down = 1; down < 64; down++) {
+                refuse(x, ILLEGAL, attributes, down);
+            }
+            Check.same("symbol as the root", x.symbol(attributes, 0), 0);
+            Check.same("passes(false)", x.passes(false), attributes == 0 ? 0 : 1);
+        }
+    }
+
+    private static void others() {
+        AttributeKinds x = new AttributeKinds();
+        int[] wrong = {-1, 7, 8, 32, 64, Integer.MIN_VALUE, Integer.MAX_VALUE};
+        for (int attributes : wrong) {
+            refuse(x, ILLEGAL, attributes, 0);
+        }
+        x.symbol(6, 0);
+        for (int attributes : wrong) {
+            refuse(x, ILLEGAL, attributes, 0);
+            refuse(x, ILLEGAL, attributes, 1);
+        }
+        for (int attributes = 0; attributes <= 6; attributes++) {
+            refuse(x, ILLEGAL, attributes, 1 << attributes);
+            refuse(x, ILLEGAL, attributes, -1);
+            refuse(x, ILLEGAL, attributes, Integer.MIN_VALUE);
+            refuse(x, ILLEGAL, attributes, 1 << attributes | 1);
+        }
+        Check.same("symbol(6, 63)", x.symbol(6, 63), 1);
+        Check.same("symbol(6, 0)", x.symbol(6, 0), 2);
+        Check.same("symbol(0, 0)", x.symbol(0, 0), 3);
+        Check.same("symbol(3, 5)", x.symbol(3, 5), 4);
+        Check.same("relation(4, 2, true)", x.relation(4, 2, true), AttributeKinds.NONE);
+        Check.refused("relation(4, 3, true)", IndexOutOfBoundsException.class,
+                () -> x.relation(4, 3, true));
+        // Which are down shows in what a production may define.
+        int p = x.production(4, 4, AttributeKinds.NONE, AttributeKinds.NONE);
+        Check.same("depend(p, 1, 0)", x.depend(p, 1, 0), true);
+        Check.same("depend(p, 10, 2)", x.depend(p, 10, 2), true);
+        Check.same("depend(p, 8, 9)", x.depend(p, 8, 9), true);
+    }
+
+    private static void eight() {
+        AttributeKinds x = new AttributeKinds();
+        for (int i = 0; i < 8; i++) {
+            Check.same("symbol(1, 0)", x.symbol(1, 0), i);
+        }
+        refuse(x, FULL, 0, 0);
+        refuse(x, FULL, 6, 63);
+        refuse(x, ILLEGAL, 7, 0);
+        refuse(x, ILLEGAL, 2, 4);
+        Check.same("production(7)", x.production(7, 7, 7, 7), 0);
+    }
+}
