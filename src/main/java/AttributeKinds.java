@@ -320,11 +320,12 @@ public final class AttributeKinds {
 
         private void joinAt(int place) {
             int onwards = rows[place];
-            if (hasBit(onwards, place)) {
+            int bit = 1 << place;
+            if ((onwards & bit) != 0) {
                 circle = true;
             }
             for (int x = 0; x < PLACES; x++) {
-                if (hasBit(rows[x], place)) {
+                if ((rows[x] & bit) != 0) {
                     rows[x] |= onwards;
                 }
             }

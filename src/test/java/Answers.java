@@ -10,11 +10,31 @@ final class Answers {
         text.append(" doubly ").append(x.doubly());
         text.append(" passes ").append(x.passes(false));
         text.append(" by turns ").append(x.passes(true)).append('\n');
-        for (int s = 0; graphs(x, s) != null; s++) {
-            text.append("symbol ").append(s).append(": graphs ").append(graphs(x, s)).append('\n');
-            for (int a = 0; attribute(x, s, a) != null; a++) {
-                text.append("  ").append(a).append(": ").append(attribute(x, s, a)).append('\n');
+        String graphs = graphs(x, 0);
+        for (int s = 0; graphs != null; s++) {
+            text.append("symbol ").append(s).append(": graphs ").append(graphs).append('\n');
+            String attribute = attribute(x, s, 0);
+            for (int a = 0; attribute != null; a++) {
+                text.append("  ").append(a).append(": ").append(attribute).append('\n');
+                attribute = attribute(x, s, a + 1);
             }
+            graphs = graphs(x, s + 1);
+        }
+        return text.toString();
+    }
+
+    /** The numbers that come next, or why there is none; this changes the object. */
+    static String additions(AttributeKinds x) {
+        StringBuilder text = new StringBuilder();
+        try {
+            text.append("symbol ").append(x.symbol(0, 0));
+        } catch (UnsupportedOperationException e) {
+            text.append("no symbol");
+        }
+        try {
+            text.append(" production ").append(x.production(0, -1, -1, -1));
+        } catch (UnsupportedOperationException e) {
+            text.append(" no production");
         }
         return text.toString();
     }

@@ -1,3 +1,6 @@
+import java.util.function.Consumer;
+import java.util.function.Supplier;
+
 /** Counts and prints the answers that are not as due, and ends the program by them. */
 final class Check {
     private static int wrong = 0;
@@ -40,12 +43,18 @@ final class Check {
         }
     }
 
-    /** That a call throws this, and that nothing that the object answers differs then. */
-    static void refusedUnchanged(
-            AttributeKinds x, String call, Class<? extends RuntimeException> due, Call run) {
-        String before = Answers.of(x);
-        refused(call, due, run);
-        same("what is answered behind " + call, Answers.of(x), before);
+    /** That a call on a fresh object throws this, and that nothing then is answered otherwise. */
+    static void refusedUnchanged(Supplier<AttributeKinds> made, String call,
+            Class<? extends RuntimeException> due, Consumer<AttributeKinds> run) {
+        AttributeKinds x = made.get();
+        AttributeKinds untouched = made.get();
+        refused(call, due, () -> run.accept(x));
+        same("what is answered behind " + call, Answers.of(x), Answers.of(untouched));
+        // Behind answers that may have been kept as well.
+        refused(call, due, () -> run.accept(x));
+        same("what is answered behind " + call, Answers.of(x), Answers.of(untouched));
+        same("what can be added behind " + call, Answers.additions(x),
+                Answers.additions(untouched));
     }
 
     static void fail(String what) {

@@ -74,14 +74,18 @@ final class CircularTest {
         Check.same("circular()", x.circular(), true);
     }
 
-    private static void tooMany() {
+    private static AttributeKinds tooManyWithCircle() {
         AttributeKinds x = Samples.leaves(11);
-        Check.refusedUnchanged(x, "circular()", UnsupportedOperationException.class,
-                () -> x.circular());
         int top = x.production(0, 1, NONE, NONE);
         x.depend(top, 8, 11);
-        Check.refusedUnchanged(x, "circular() with a circle", UnsupportedOperationException.class,
-                () -> x.circular());
+        return x;
+    }
+
+    private static void tooMany() {
+        Check.refusedUnchanged(() -> Samples.leaves(11), "circular()",
+                UnsupportedOperationException.class, x -> x.circular());
+        Check.refusedUnchanged(CircularTest::tooManyWithCircle, "circular() with a circle",
+                UnsupportedOperationException.class, x -> x.circular());
         AttributeKinds ten = Samples.leaves(10);
         Check.same("circular()", ten.circular(), false);
         ten.production(0, 1, NONE, NONE);

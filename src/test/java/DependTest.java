@@ -43,30 +43,35 @@ final class DependTest {
         }
     }
 
-    private static void wrongNumbers() {
+    private static AttributeKinds more() {
         AttributeKinds x = three();
         x.production(1, NONE, NONE, NONE);
         x.production(0, NONE, NONE, NONE);
         x.depend(0, 8, 9);
+        return x;
+    }
+
+    private static void wrongNumbers() {
         int[] wrong = {-1, -8, 3, 7, 10, 15, 18, 23, 24, 25, 31, 32, 33, 40, 64,
             Integer.MAX_VALUE, Integer.MIN_VALUE, Integer.MIN_VALUE + 8};
         for (int w : wrong) {
-            Check.refusedUnchanged(x, "depend(0, " + w + ", 9)", IllegalArgumentException.class,
-                    () -> x.depend(0, w, 9));
-            Check.refusedUnchanged(x, "depend(0, 8, " + w + ")", IllegalArgumentException.class,
-                    () -> x.depend(0, 8, w));
+            Check.refusedUnchanged(DependTest::more, "depend(0, " + w + ", 9)",
+                    IllegalArgumentException.class, x -> x.depend(0, w, 9));
+            Check.refusedUnchanged(DependTest::more, "depend(0, 8, " + w + ")",
+                    IllegalArgumentException.class, x -> x.depend(0, 8, w));
         }
+        AttributeKinds x = more();
         Check.same("depend(0, 8, 9)", x.depend(0, 8, 9), false);
         Check.same("depend(0, 0, 9)", x.depend(0, 0, 9), true);
     }
 
     private static void noSuchProduction() {
-        AttributeKinds x = three();
         for (int p : new int[] {-1, 2, 15, 16, Integer.MAX_VALUE, Integer.MIN_VALUE}) {
-            Check.refusedUnchanged(x, "depend(" + p + ", 0, 1)", IndexOutOfBoundsException.class,
-                    () -> x.depend(p, 0, 1));
-            Check.refused("depend(" + p + ", 1, 0)", IndexOutOfBoundsException.class,
-                    () -> x.depend(p, 1, 0));
+            Check.refusedUnchanged(DependTest::three, "depend(" + p + ", 0, 1)",
+                    IndexOutOfBoundsException.class, x -> x.depend(p, 0, 1));
+            // No x and no y could be; that there is no such production is said all the same.
+            Check.refusedUnchanged(DependTest::three, "depend(" + p + ", 1, 0)",
+                    IndexOutOfBoundsException.class, x -> x.depend(p, 1, 0));
         }
     }
 }

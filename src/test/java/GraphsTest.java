@@ -1,3 +1,5 @@
+import java.util.function.Supplier;
+
 /** Promise 6: graphs. */
 final class GraphsTest {
     private static final int NONE = AttributeKinds.NONE;
@@ -83,11 +85,12 @@ final class GraphsTest {
 
     private static void ten() {
         Check.same("graphs(1) of 10", Samples.leaves(10).graphs(1), 10);
-        AttributeKinds x = Samples.leaves(11);
-        Check.refusedUnchanged(x, "graphs(1) of 11", TOO_MANY, () -> x.graphs(1));
-        Check.refusedUnchanged(x, "graphs(0) beside 11", TOO_MANY, () -> x.graphs(0));
-        Check.refusedUnchanged(x, "graphs(2) beside 11", IndexOutOfBoundsException.class,
-                () -> x.graphs(2));
+        Supplier<AttributeKinds> eleven = () -> Samples.leaves(11);
+        Check.refusedUnchanged(eleven, "graphs(1) of 11", TOO_MANY, y -> y.graphs(1));
+        Check.refusedUnchanged(eleven, "graphs(0) beside 11", TOO_MANY, y -> y.graphs(0));
+        Check.refusedUnchanged(eleven, "graphs(2) beside 11", IndexOutOfBoundsException.class,
+                y -> y.graphs(2));
+        AttributeKinds x = eleven.get();
         Check.same("strong() beside 11", x.strong(), true);
         Check.same("passes(false) beside 11", x.passes(false), 1);
         x.clear();
@@ -99,10 +102,9 @@ final class GraphsTest {
     }
 
     private static void wrongSymbols() {
-        AttributeKinds x = Samples.pair();
         for (int s : new int[] {-1, 2, 7, 8, Integer.MAX_VALUE, Integer.MIN_VALUE}) {
-            Check.refusedUnchanged(x, "graphs(" + s + ")", IndexOutOfBoundsException.class,
-                    () -> x.graphs(s));
+            Check.refusedUnchanged(Samples::pair, "graphs(" + s + ")",
+                    IndexOutOfBoundsException.class, x -> x.graphs(s));
         }
     }
 }

@@ -118,19 +118,21 @@ final class PassTest {
         numbers(x, 1, true, NONE, NONE, NONE, NONE);
     }
 
-    private static void wrongNumbers() {
-        AttributeKinds x = Samples.freeButNotStrongly();
-        for (boolean turns : new boolean[] {false, true}) {
-            for (int s : new int[] {-1, 2, 7, 8, Integer.MAX_VALUE, Integer.MIN_VALUE}) {
-                Check.refusedUnchanged(x, "pass(" + s + ", 0, " + turns + ")",
-                        IndexOutOfBoundsException.class, () -> x.pass(s, 0, turns));
-            }
-            for (int a : new int[] {-1, 4, 5, 6, 8, Integer.MAX_VALUE, Integer.MIN_VALUE}) {
-                Check.refused("pass(1, " + a + ", " + turns + ")",
-                        IndexOutOfBoundsException.class, () -> x.pass(1, a, turns));
-            }
-            Check.refused("pass(0, 1, " + turns + ")", IndexOutOfBoundsException.class,
-                    () -> x.pass(0, 1, turns));
+    private static void refuse(int symbol, int a) {
+        for (boolean flag : new boolean[] {false, true}) {
+            Check.refusedUnchanged(Samples::freeButNotStrongly,
+                    "pass(" + symbol + ", " + a + ", " + flag + ")",
+                    IndexOutOfBoundsException.class, x -> x.pass(symbol, a, flag));
         }
+    }
+
+    private static void wrongNumbers() {
+        for (int s : new int[] {-1, 2, 7, 8, Integer.MAX_VALUE, Integer.MIN_VALUE}) {
+            refuse(s, 0);
+        }
+        for (int a : new int[] {-1, 4, 5, 6, 8, Integer.MAX_VALUE, Integer.MIN_VALUE}) {
+            refuse(1, a);
+        }
+        refuse(0, 1);
     }
 }

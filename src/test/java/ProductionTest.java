@@ -1,3 +1,6 @@
+import java.util.Arrays;
+import java.util.function.Supplier;
+
 /** Promise 4: production. */
 final class ProductionTest {
     private static final int NONE = AttributeKinds.NONE;
@@ -11,44 +14,47 @@ final class ProductionTest {
         Check.end();
     }
 
-    private static void refuse(AttributeKinds x, Class<? extends RuntimeException> due,
-            int head, int one, int two, int three) {
-        Check.refusedUnchanged(x,
-                "production(" + head + ", " + one + ", " + two + ", " + three + ")", due,
-                () -> x.production(head, one, two, three));
+    private static void refuse(Supplier<AttributeKinds> made,
+            Class<? extends RuntimeException> due, int... at) {
+        Check.refusedUnchanged(made, "production(" + Arrays.toString(at) + ")", due,
+                x -> x.production(at[0], at[1], at[2], at[3]));
     }
 
     private static void wrongSymbols() {
-        AttributeKinds x = Samples.pair();
         for (int wrong : new int[] {2, 7, 8, -2, Integer.MAX_VALUE, Integer.MIN_VALUE}) {
-            refuse(x, ILLEGAL, wrong, NONE, NONE, NONE);
-            refuse(x, ILLEGAL, 0, wrong, NONE, NONE);
-            refuse(x, ILLEGAL, 0, 1, wrong, NONE);
-            refuse(x, ILLEGAL, 0, 1, 1, wrong);
+            refuse(Samples::pair, ILLEGAL, wrong, NONE, NONE, NONE);
+            refuse(Samples::pair, ILLEGAL, 0, wrong, NONE, NONE);
+            refuse(Samples::pair, ILLEGAL, 0, 1, wrong, NONE);
+            refuse(Samples::pair, ILLEGAL, 0, 1, 1, wrong);
         }
-        refuse(x, ILLEGAL, NONE, NONE, NONE, NONE);
-        refuse(x, ILLEGAL, NONE, 1, NONE, NONE);
+        refuse(Samples::pair, ILLEGAL, NONE, NONE, NONE, NONE);
+        refuse(Samples::pair, ILLEGAL, NONE, 1, NONE, NONE);
+        AttributeKinds x = Samples.pair();
         Check.same("production(1)", x.production(1, NONE, NONE, NONE), 0);
         Check.same("production(1, 0, 0, 1)", x.production(1, 0, 0, 1), 1);
     }
 
     private static void gaps() {
-        AttributeKinds x = Samples.pair();
-        refuse(x, ILLEGAL, 0, NONE, 1, NONE);
-        refuse(x, ILLEGAL, 0, NONE, NONE, 1);
-        refuse(x, ILLEGAL, 0, NONE, 1, 1);
-        refuse(x, ILLEGAL, 0, 1, NONE, 1);
-        Check.same("production(0, 1, 1)", x.production(0, 1, 1, NONE), 0);
+        refuse(Samples::pair, ILLEGAL, 0, NONE, 1, NONE);
+        refuse(Samples::pair, ILLEGAL, 0, NONE, NONE, 1);
+        refuse(Samples::pair, ILLEGAL, 0, NONE, 1, 1);
+        refuse(Samples::pair, ILLEGAL, 0, 1, NONE, 1);
+        Check.same("production(0, 1, 1)", Samples.pair().production(0, 1, 1, NONE), 0);
     }
 
-    private static void sixteen() {
+    private static AttributeKinds full() {
         AttributeKinds x = Samples.pair();
         for (int i = 0; i < 16; i++) {
             Check.same("production(1)", x.production(1, NONE, NONE, NONE), i);
         }
-        refuse(x, UnsupportedOperationException.class, 0, 1, NONE, NONE);
-        refuse(x, ILLEGAL, 2, NONE, NONE, NONE);
-        refuse(x, ILLEGAL, 0, NONE, 1, NONE);
+        return x;
+    }
+
+    private static void sixteen() {
+        refuse(ProductionTest::full, UnsupportedOperationException.class, 0, 1, NONE, NONE);
+        refuse(ProductionTest::full, ILLEGAL, 2, NONE, NONE, NONE);
+        refuse(ProductionTest::full, ILLEGAL, 0, NONE, 1, NONE);
+        AttributeKinds x = full();
         Check.same("graphs(1)", x.graphs(1), 1);
         Check.same("graphs(0)", x.graphs(0), 0);
         Check.same("depend(15, 2, 0)", x.depend(15, 2, 0), true);

@@ -87,19 +87,21 @@ final class RelationTest {
         relations(x, 1, true, 2, 0);
     }
 
-    private static void wrongNumbers() {
-        AttributeKinds x = Samples.freeButNotStrongly();
-        for (boolean above : new boolean[] {false, true}) {
-            for (int s : new int[] {-1, 2, 7, 8, Integer.MAX_VALUE, Integer.MIN_VALUE}) {
-                Check.refusedUnchanged(x, "relation(" + s + ", 0, " + above + ")",
-                        IndexOutOfBoundsException.class, () -> x.relation(s, 0, above));
-            }
-            for (int a : new int[] {-1, 4, 5, 6, 8, Integer.MAX_VALUE, Integer.MIN_VALUE}) {
-                Check.refused("relation(1, " + a + ", " + above + ")",
-                        IndexOutOfBoundsException.class, () -> x.relation(1, a, above));
-            }
-            Check.refused("relation(0, 1, " + above + ")", IndexOutOfBoundsException.class,
-                    () -> x.relation(0, 1, above));
+    private static void refuse(int symbol, int a) {
+        for (boolean flag : new boolean[] {false, true}) {
+            Check.refusedUnchanged(Samples::freeButNotStrongly,
+                    "relation(" + symbol + ", " + a + ", " + flag + ")",
+                    IndexOutOfBoundsException.class, x -> x.relation(symbol, a, flag));
         }
+    }
+
+    private static void wrongNumbers() {
+        for (int s : new int[] {-1, 2, 7, 8, Integer.MAX_VALUE, Integer.MIN_VALUE}) {
+            refuse(s, 0);
+        }
+        for (int a : new int[] {-1, 4, 5, 6, 8, Integer.MAX_VALUE, Integer.MIN_VALUE}) {
+            refuse(1, a);
+        }
+        refuse(0, 1);
     }
 }
