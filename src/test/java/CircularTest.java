@@ -74,10 +74,21 @@ final class CircularTest {
         Check.same("circular()", x.circular(), true);
     }
 
+    /** Symbol 1 has ten graphs and a circle under the root; symbol 2 has those and one more. */
     private static AttributeKinds tooManyWithCircle() {
-        AttributeKinds x = Samples.leaves(11);
+        AttributeKinds x = Samples.leaves(10);
+        x.symbol(6, 7);
         int top = x.production(0, 1, NONE, NONE);
         x.depend(top, 8, 11);
+        Check.same("circular() before", x.circular(), true);
+        int over = x.production(2, 1, NONE, NONE);
+        for (int a = 0; a < 3; a++) {
+            x.depend(over, 3 + a, 11 + a);
+            x.depend(over, 8 + a, a);
+        }
+        Check.same("graphs(2) before", x.graphs(2), 10);
+        int leaf = x.production(2, NONE, NONE, NONE);
+        x.depend(leaf, 5, 2);
         return x;
     }
 

@@ -27,9 +27,12 @@ final class ClearTest {
 
     private static void dependencesGo() {
         AttributeKinds x = Samples.freeButNotStrongly();
+        Answers.of(x);
         x.clear();
         Check.same("symbol(1, 0)", x.symbol(1, 0), 0);
         Check.same("symbol(4, 3)", x.symbol(4, 3), 1);
+        Check.same("relation(1, 2, false)", x.relation(1, 2, false), NONE);
+        Check.same("graphs(1)", x.graphs(1), 0);
         Check.same("production(0, 1)", x.production(0, 1, NONE, NONE), 0);
         Check.same("production(1)", x.production(1, NONE, NONE, NONE), 1);
         Check.same("production(1)", x.production(1, NONE, NONE, NONE), 2);

@@ -11,6 +11,7 @@ final class GraphsTest {
         noTrees();
         circlesHaveGraphsToo();
         overParts();
+        oldBesideNew();
         ten();
         wrongSymbols();
         Check.end();
@@ -81,6 +82,27 @@ final class GraphsTest {
         Check.same("graphs(2)", x.graphs(2), 4);
         x.depend(both, 9, 19);
         Check.same("circular()", x.circular(), false);
+    }
+
+    /** A graph that comes late is joined with one known long before, on either side. */
+    private static void oldBesideNew() {
+        AttributeKinds x = new AttributeKinds();
+        x.symbol(1, 0);
+        x.symbol(2, 1);
+        x.symbol(4, 3);
+        int leaf = x.production(1, NONE, NONE, NONE);
+        int later = x.production(1, 0, NONE, NONE);
+        x.production(0, NONE, NONE, NONE);
+        x.depend(leaf, 1, 0);
+        int both = x.production(2, 1, 1, NONE);
+        x.depend(both, 2, 9);
+        x.depend(both, 3, 17);
+        x.depend(both, 8, 0);
+        x.depend(both, 16, 1);
+        Check.same("graphs(1)", x.graphs(1), 2);
+        Check.same("graphs(2)", x.graphs(2), 4);
+        x.depend(later, 1, 0);
+        Check.same("graphs(2) of two alike", x.graphs(2), 1);
     }
 
     private static void ten() {

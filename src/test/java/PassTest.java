@@ -8,6 +8,7 @@ final class PassTest {
         onlyFromTheRight();
         alsoWithoutTrees();
         leftOverInTheMiddle();
+        leftOverTwice();
         round();
         wrongNumbers();
         Check.end();
@@ -109,6 +110,27 @@ final class PassTest {
         numbers(x, 1, false, 2, 2, 1);
         Check.same("passes(true)", x.passes(true), 3);
         Check.same("passes(false)", x.passes(false), 2);
+    }
+
+    /** The same twice: passes 2 and 4 give none, but never two one behind the other. */
+    private static void leftOverTwice() {
+        AttributeKinds x = new AttributeKinds();
+        x.symbol(0, 0);
+        x.symbol(5, 10);
+        int top = x.production(0, 1, NONE, NONE);
+        int both = x.production(1, 1, 1, NONE);
+        int leaf = x.production(1, NONE, NONE, NONE);
+        for (int down = 1; down <= 3; down += 2) {
+            x.depend(top, 8 + down, 8 + down - 1);
+            x.depend(both, 8 + down, down);
+            x.depend(both, 16 + down, 8 + down + 1);
+            x.depend(both, down + 1, 16 + down + 1);
+            x.depend(leaf, down + 1, down);
+        }
+        numbers(x, 1, true, 1, 3, 3, 5, 5);
+        numbers(x, 1, false, 1, 2, 2, 3, 3);
+        Check.same("passes(true)", x.passes(true), 5);
+        Check.same("passes(false)", x.passes(false), 3);
     }
 
     private static void round() {

@@ -5,6 +5,7 @@ final class RelationTest {
     public static void main(String[] args) {
         unions();
         fromAbove();
+        handedDown();
         withoutThePartItself();
         noRelation();
         wrongNumbers();
@@ -45,6 +46,29 @@ final class RelationTest {
         y.depend(leaf, 1, 0);
         relations(y, 1, true, 2, 0);
         relations(y, 1, false, 0, 1);
+    }
+
+    /** The V of a head counts for its parts, level by level. */
+    private static void handedDown() {
+        AttributeKinds x = new AttributeKinds();
+        x.symbol(0, 0);
+        for (int s = 1; s <= 3; s++) {
+            x.symbol(2, 1);
+        }
+        for (int s = 0; s < 3; s++) {
+            x.production(s, s + 1, NONE, NONE);
+        }
+        x.production(3, NONE, NONE, NONE);
+        for (int p = 1; p < 3; p++) {
+            x.depend(p, 8, 0);
+            x.depend(p, 1, 9);
+        }
+        relations(x, 3, true, 0, 0);
+        x.depend(0, 8, 9);
+        for (int s = 1; s <= 3; s++) {
+            relations(x, s, true, 2, 0);
+            relations(x, s, false, 0, 0);
+        }
     }
 
     /** Down 0 of a part on up 2, up 2 on down 1 in the part, down 1 on up 3: not 0 on 3. */
