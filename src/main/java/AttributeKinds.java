@@ -11,7 +11,7 @@ public final class AttributeKinds {
     private static final int MOST_PARTS = 3;
     private static final int MOST_GRAPHS = 10;
 
-    /** Places of a production's attributes: eight an occurrence, so that a row of them is an int. */
+    /** A production's attributes have eight places an occurrence: a row of them is an int. */
     private static final int WIDTH = 8;
     private static final int PLACES = WIDTH * (MOST_PARTS + 1);
     private static final int BYTE = 0xFF;

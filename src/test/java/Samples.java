@@ -13,7 +13,7 @@ final class Samples {
         return x;
     }
 
-    /** Two trees of symbol 1, each with a graph of one step; under the root no tree has a circle. */
+    /** Two trees of symbol 1, each with a graph of one step; no tree of the root has a circle. */
     static AttributeKinds freeButNotStrongly() {
         AttributeKinds x = pair();
         int top = x.production(0, 1, NONE, NONE);
