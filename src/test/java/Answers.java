@@ -1,4 +1,6 @@
-/** All that an object answers without being changed, as a text. */
+import java.util.function.Supplier;
+
+/** All that an object answers, as a text. */
 final class Answers {
     private Answers() {
     }
@@ -35,6 +37,42 @@ final class Answers {
             text.append(" production ").append(x.production(0, -1, -1, -1));
         } catch (UnsupportedOperationException e) {
             text.append(" no production");
+        }
+        return text.toString();
+    }
+
+    /** By production and x: for each y 1 if it is new, 0 if not, . if it can't be. */
+    static String dependences(Supplier<AttributeKinds> made) {
+        StringBuilder text = new StringBuilder();
+        for (int p = 0; hasProduction(made.get(), p); p++) {
+            for (int place = 0; place < 32; place++) {
+                // A new object for each, so that none gets more calls than it is promised for.
+                text.append(p).append(' ').append(place).append(' ');
+                text.append(dependences(made.get(), p, place)).append('\n');
+            }
+        }
+        return text.toString();
+    }
+
+    private static boolean hasProduction(AttributeKinds x, int p) {
+        try {
+            x.depend(p, -1, -1);
+        } catch (IndexOutOfBoundsException e) {
+            return false;
+        } catch (IllegalArgumentException e) {
+            return true;
+        }
+        return true;
+    }
+
+    private static String dependences(AttributeKinds x, int p, int place) {
+        StringBuilder text = new StringBuilder();
+        for (int y = 0; y < 32; y++) {
+            try {
+                text.append(x.depend(p, place, y) ? '1' : '0');
+            } catch (IllegalArgumentException e) {
+                text.append('.');
+            }
         }
         return text.toString();
     }

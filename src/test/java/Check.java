@@ -55,6 +55,13 @@ final class Check {
         same("what is answered behind " + call, Answers.of(x), Answers.of(untouched));
         same("what can be added behind " + call, Answers.additions(x),
                 Answers.additions(untouched));
+        Supplier<AttributeKinds> refusing = () -> {
+            AttributeKinds y = made.get();
+            refused(call, due, () -> run.accept(y));
+            return y;
+        };
+        same("which dependences are new behind " + call, Answers.dependences(refusing),
+                Answers.dependences(made));
     }
 
     static void fail(String what) {

@@ -1,28 +1,55 @@
+import java.util.List;
+import java.util.function.Supplier;
+
 /** Promise 2: all goes. */
 final class ClearTest {
     private static final int NONE = AttributeKinds.NONE;
 
     public static void main(String[] args) {
         allGoes();
+        theRootIsNextAgain();
         dependencesGo();
+        dependencesOfAllSixteenGo();
         roomComesBack();
+        answersGo();
         Check.end();
     }
 
+    /** Of nothing, of little, of as much as there can be: nothing that a new object hasn't. */
     private static void allGoes() {
-        String empty = Answers.of(new AttributeKinds());
-        AttributeKinds[] all = {
-            new AttributeKinds(), Samples.pair(), Samples.freeButNotStrongly(),
-            Samples.stronglyButNotDoubly(), Samples.leaves(11), Samples.chain(2, 1)};
-        for (AttributeKinds x : all) {
-            Answers.of(x);
-            x.clear();
-            Check.same("all behind clear()", Answers.of(x), empty);
-            Check.refused("depend(0, 0, 0)", IndexOutOfBoundsException.class,
-                    () -> x.depend(0, 0, 0));
-            Check.refused("symbol(1, 1) as the root", IllegalArgumentException.class,
-                    () -> x.symbol(1, 1));
+        List<Supplier<AttributeKinds>> all = List.of(
+                AttributeKinds::new, Samples::pair, Samples::freeButNotStrongly,
+                Samples::stronglyButNotDoubly, () -> Samples.leaves(11),
+                () -> Samples.chain(2, 1), Samples::full);
+        for (Supplier<AttributeKinds> made : all) {
+            goes(made.get());
+            AttributeKinds asked = made.get();
+            Answers.of(asked);
+            goes(asked);
         }
+    }
+
+    private static void goes(AttributeKinds x) {
+        AttributeKinds fresh = new AttributeKinds();
+        x.clear();
+        Check.same("all behind clear()", Answers.of(x), Answers.of(fresh));
+        x.clear();
+        Check.same("all behind clear() twice", Answers.of(x), Answers.of(fresh));
+        Check.refused("depend(0, 0, 0)", IndexOutOfBoundsException.class,
+                () -> x.depend(0, 0, 0));
+        Check.refused("production(0)", IllegalArgumentException.class,
+                () -> x.production(0, NONE, NONE, NONE));
+        Check.same("what can be added", Answers.additions(x), Answers.additions(fresh));
+    }
+
+    private static void theRootIsNextAgain() {
+        AttributeKinds x = Samples.pair();
+        Check.same("symbol(1, 1) before", x.symbol(1, 1), 2);
+        x.clear();
+        Check.refused("symbol(1, 1) as the root", IllegalArgumentException.class,
+                () -> x.symbol(1, 1));
+        Check.same("symbol(1, 0)", x.symbol(1, 0), 0);
+        Check.same("symbol(1, 1)", x.symbol(1, 1), 1);
     }
 
     private static void dependencesGo() {
@@ -44,16 +71,53 @@ final class ClearTest {
         Check.same("depend(1, 2, 0)", x.depend(1, 2, 0), true);
     }
 
+    private static void dependencesOfAllSixteenGo() {
+        AttributeKinds x = new AttributeKinds();
+        for (int round = 0; round < 3; round++) {
+            Samples.fill(x);
+            for (int p = 0; p < 16; p++) {
+                for (int part = 1; part <= 3; part++) {
+                    Check.same("depend(" + p + ") in round " + round,
+                            x.depend(p, 8 * part + 2, 8 * part + 5), true);
+                    Check.same("depend(" + p + ") again", x.depend(p, 8 * part + 2, 8 * part + 5),
+                            false);
+                }
+            }
+            x.clear();
+        }
+    }
+
     private static void roomComesBack() {
         AttributeKinds x = new AttributeKinds();
         for (int round = 0; round < 3; round++) {
             for (int i = 0; i < 8; i++) {
                 Check.same("symbol(0, 0)", x.symbol(0, 0), i);
             }
+            Check.refused("a ninth", UnsupportedOperationException.class, () -> x.symbol(0, 0));
             for (int i = 0; i < 16; i++) {
                 Check.same("production(7)", x.production(7, NONE, NONE, NONE), i);
             }
+            Check.refused("a seventeenth", UnsupportedOperationException.class,
+                    () -> x.production(7, NONE, NONE, NONE));
             x.clear();
         }
+    }
+
+    /** What had been asked, each question by itself, is not answered so again. */
+    private static void answersGo() {
+        AttributeKinds x = Samples.leaves(11);
+        Check.refused("circular()", UnsupportedOperationException.class, () -> x.circular());
+        x.clear();
+        Check.same("circular() behind too many graphs", x.circular(), false);
+        AttributeKinds y = Samples.freeButNotStrongly();
+        Check.same("strong()", y.strong(), false);
+        Check.same("doubly()", y.doubly(), false);
+        Check.same("passes(false)", y.passes(false), NONE);
+        Check.same("passes(true)", y.passes(true), NONE);
+        y.clear();
+        Check.same("strong() behind clear()", y.strong(), true);
+        Check.same("doubly() behind clear()", y.doubly(), true);
+        Check.same("passes(false) behind clear()", y.passes(false), 0);
+        Check.same("passes(true) behind clear()", y.passes(true), 0);
     }
 }

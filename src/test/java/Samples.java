@@ -44,15 +44,41 @@ final class Samples {
         AttributeKinds x = new AttributeKinds();
         x.symbol(1, 0);
         x.symbol(6, 7);
+        addLeaves(x, 1, graphs);
+        return x;
+    }
+
+    /** The graph of leaf i has a step for each bit of i: 3 on 0, 3 on 1, 3 on 2, 4 on 0. */
+    static void addLeaves(AttributeKinds x, int symbol, int graphs) {
         for (int i = 0; i < graphs; i++) {
-            int leaf = x.production(1, NONE, NONE, NONE);
+            int leaf = x.production(symbol, NONE, NONE, NONE);
             for (int bit = 0; bit < 4; bit++) {
                 if ((i >> bit & 1) != 0) {
                     x.depend(leaf, 3 + bit / 3, bit % 3);
                 }
             }
         }
+    }
+
+    /** As many symbols, attributes, productions and parts as there can be. */
+    static AttributeKinds full() {
+        AttributeKinds x = new AttributeKinds();
+        fill(x);
+        for (int p = 0; p < 16; p++) {
+            x.depend(p, 24, 29);
+        }
         return x;
+    }
+
+    /** The root with six up, seven symbols with down 0, 1, 2 and up 3, 4, 5; no dependences. */
+    static void fill(AttributeKinds x) {
+        x.symbol(6, 0);
+        for (int s = 1; s < 8; s++) {
+            x.symbol(6, 7);
+        }
+        for (int p = 0; p < 16; p++) {
+            x.production(p % 8, 5, 6, 7);
+        }
     }
 
     /** Symbol 1 (down 0, up 1) of two of its kind, one's down on the up of the other. */
