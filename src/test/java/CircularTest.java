@@ -3,13 +3,33 @@ final class CircularTest {
     private static final int NONE = AttributeKinds.NONE;
 
     public static void main(String[] args) {
+        nothingToGoRound();
         free();
         underTheRoot();
         ofAnySymbol();
         onlyWithTrees();
+        onlyWithTreesOfAllParts();
         roundTwoParts();
+        roundAllOfAProduction();
+        roundAllEightSymbols();
         tooMany();
+        tenAreNotTooMany();
         Check.end();
+    }
+
+    /** No symbols, no productions, no dependences: no circle. */
+    private static void nothingToGoRound() {
+        AttributeKinds x = new AttributeKinds();
+        Check.same("circular() of nothing", x.circular(), false);
+        x.symbol(6, 0);
+        for (int s = 1; s < 8; s++) {
+            x.symbol(6, 7);
+        }
+        Check.same("circular() without productions", x.circular(), false);
+        for (int p = 0; p < 16; p++) {
+            x.production(p / 2, p % 2 == 0 ? NONE : 7, NONE, NONE);
+        }
+        Check.same("circular() without dependences", x.circular(), false);
     }
 
     private static void free() {
@@ -41,7 +61,7 @@ final class CircularTest {
         Check.same("circular()", x.circular(), true);
     }
 
-    /** The production with the circle has a part without trees. */
+    /** "(A symbol without trees has none.)": the one with the circle has a part without. */
     private static void onlyWithTrees() {
         AttributeKinds x = new AttributeKinds();
         x.symbol(0, 0);
@@ -60,6 +80,17 @@ final class CircularTest {
         Check.same("doubly()", x.doubly(), false);
     }
 
+    private static void onlyWithTreesOfAllParts() {
+        for (int place = 1; place <= 3; place++) {
+            AttributeKinds x = Samples.circleBesideNoTree(place);
+            Check.same("circular() without part " + place, x.circular(), false);
+            x.production(2, 2, NONE, NONE);
+            Check.same("circular() without an end of part " + place, x.circular(), false);
+            x.production(2, NONE, NONE, NONE);
+            Check.same("circular() with part " + place, x.circular(), true);
+        }
+    }
+
     private static void roundTwoParts() {
         AttributeKinds x = new AttributeKinds();
         x.symbol(0, 0);
@@ -71,6 +102,22 @@ final class CircularTest {
         x.depend(top, 16, 25);
         Check.same("circular()", x.circular(), false);
         x.depend(top, 8, 17);
+        Check.same("circular()", x.circular(), true);
+    }
+
+    /** "over some steps": as many as the attributes of three parts. */
+    private static void roundAllOfAProduction() {
+        AttributeKinds x = Samples.nearlyRound();
+        Check.same("circular() but for a step", x.circular(), false);
+        x.depend(0, 8, 29);
+        Check.same("circular()", x.circular(), true);
+    }
+
+    private static void roundAllEightSymbols() {
+        AttributeKinds x = Samples.ladder();
+        x.depend(0, 8, 9);
+        Check.same("circular() but for the leaf", x.circular(), false);
+        x.depend(7, 1, 0);
         Check.same("circular()", x.circular(), true);
     }
 
@@ -92,11 +139,17 @@ final class CircularTest {
         return x;
     }
 
+    /** "UnsupportedOperationException as for graphs()": whether there is a circle or not. */
     private static void tooMany() {
-        Check.refusedUnchanged(() -> Samples.leaves(11), "circular()",
-                UnsupportedOperationException.class, x -> x.circular());
+        for (int graphs : new int[] {11, 16}) {
+            Check.refusedUnchanged(() -> Samples.leaves(graphs), "circular()",
+                    UnsupportedOperationException.class, x -> x.circular());
+        }
         Check.refusedUnchanged(CircularTest::tooManyWithCircle, "circular() with a circle",
                 UnsupportedOperationException.class, x -> x.circular());
+    }
+
+    private static void tenAreNotTooMany() {
         AttributeKinds ten = Samples.leaves(10);
         Check.same("circular()", ten.circular(), false);
         ten.production(0, 1, NONE, NONE);

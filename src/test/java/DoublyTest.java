@@ -3,17 +3,42 @@ final class DoublyTest {
     private static final int NONE = AttributeKinds.NONE;
 
     public static void main(String[] args) {
-        AttributeKinds x = Samples.stronglyButNotDoubly();
-        Check.same("doubly()", x.doubly(), false);
-        Check.same("strong()", x.strong(), true);
-        Check.same("doubly()", Samples.freeButNotStrongly().doubly(), false);
-        Check.same("doubly()", Samples.chain(1, 2).doubly(), true);
-        Check.same("doubly()", Samples.leaves(11).doubly(), true);
-        Check.same("doubly() of nothing", new AttributeKinds().doubly(), true);
+        nothingToGoRound();
+        unlikeStrong();
         oneSideOnly();
         throughTheMiddle();
         ofUnreachedSymbols();
+        onlyWithAllParts();
+        nothingComesOfWhatHasNoU();
+        emptyAtFirst();
+        roundAllOfAProduction();
+        roundAllEightSymbols();
+        whateverTheGraphs();
         Check.end();
+    }
+
+    private static void doubly(String what, AttributeKinds x, boolean due) {
+        Check.same("doubly() " + what, x.doubly(), due);
+    }
+
+    private static void nothingToGoRound() {
+        AttributeKinds x = new AttributeKinds();
+        doubly("of nothing", x, true);
+        x.symbol(6, 0);
+        x.symbol(6, 7);
+        doubly("without productions", x, true);
+        x.production(0, 1, 1, 1);
+        x.production(1, NONE, NONE, NONE);
+        doubly("without dependences", x, true);
+    }
+
+    /** Two places above a symbol together have what none has alone. */
+    private static void unlikeStrong() {
+        AttributeKinds x = Samples.stronglyButNotDoubly();
+        doubly("of a grammar that is strongly free", x, false);
+        Check.same("strong()", x.strong(), true);
+        doubly("of one that is not strongly free", Samples.freeButNotStrongly(), false);
+        doubly("of one that is", Samples.chain(1, 2), true);
     }
 
     private static void oneSideOnly() {
@@ -23,10 +48,10 @@ final class DoublyTest {
         x.depend(0, 9, 10);
         x.depend(1, 2, 0);
         x.depend(1, 3, 1);
-        Check.same("doubly()", x.doubly(), true);
+        doubly("from one side", x, true);
         x.production(0, 1, NONE, NONE);
         x.depend(2, 8, 11);
-        Check.same("doubly()", x.doubly(), false);
+        doubly("from both", x, false);
     }
 
     /** As the sample, but with a symbol between, so that V must be handed down. */
@@ -43,18 +68,17 @@ final class DoublyTest {
         x.depend(middle, 9, 1);
         x.depend(middle, 2, 10);
         x.depend(middle, 3, 11);
-        Check.same("doubly()", x.doubly(), true);
+        doubly("without steps in the leaf", x, true);
         x.depend(leaf, 2, 0);
-        Check.same("doubly()", x.doubly(), true);
+        doubly("with one", x, true);
         x.depend(leaf, 3, 1);
-        Check.same("doubly()", x.doubly(), false);
+        doubly("with both", x, false);
         Check.same("strong()", x.strong(), true);
     }
 
     /** A symbol that no tree of the root has counts as well. */
     private static void ofUnreachedSymbols() {
-        AttributeKinds x = Samples.stronglyButNotDoubly();
-        x.clear();
+        AttributeKinds x = new AttributeKinds();
         x.symbol(0, 0);
         x.symbol(4, 3);
         x.symbol(0, 0);
@@ -66,6 +90,78 @@ final class DoublyTest {
         x.depend(3, 3, 1);
         x.depend(1, 9, 10);
         x.depend(2, 8, 11);
-        Check.same("doubly()", x.doubly(), false);
+        doubly("of symbols that the root hasn't", x, false);
+    }
+
+    /** "no production (whose parts all have a U)". */
+    private static void onlyWithAllParts() {
+        for (int place = 1; place <= 3; place++) {
+            AttributeKinds x = Samples.circleBesideNoTree(place);
+            doubly("without a U of part " + place, x, true);
+            x.production(2, 2, NONE, NONE);
+            doubly("with one that comes of itself alone", x, true);
+            x.production(2, NONE, NONE, NONE);
+            doubly("with a U of part " + place, x, false);
+        }
+    }
+
+    /** One of the two places above has a part without a U: it gives nothing to V. */
+    private static void nothingComesOfWhatHasNoU() {
+        AttributeKinds x = Samples.pair();
+        x.symbol(0, 0);
+        int above = x.production(0, 1, NONE, NONE);
+        int elsewhere = x.production(0, 1, 2, NONE);
+        int leaf = x.production(1, NONE, NONE, NONE);
+        x.depend(leaf, 2, 0);
+        x.depend(leaf, 3, 1);
+        x.depend(above, 9, 10);
+        x.depend(elsewhere, 8, 11);
+        doubly("without a U of symbol 2", x, true);
+        x.production(2, NONE, NONE, NONE);
+        doubly("with a U of symbol 2", x, false);
+    }
+
+    /** "empty for all at first": a V that only itself would bring is not there. */
+    private static void emptyAtFirst() {
+        AttributeKinds x = Samples.pair();
+        int leaf = x.production(1, NONE, NONE, NONE);
+        x.depend(leaf, 2, 0);
+        int inner = x.production(1, 1, NONE, NONE);
+        x.depend(inner, 8, 0);
+        x.depend(inner, 2, 10);
+        doubly("without a place above", x, true);
+        Check.same("relation(1, 0, true)", x.relation(1, 0, true), 0);
+        int top = x.production(0, 1, NONE, NONE);
+        doubly("with a place above without steps", x, true);
+        x.depend(top, 8, 10);
+        doubly("with a step above", x, false);
+    }
+
+    private static void roundAllOfAProduction() {
+        AttributeKinds x = Samples.nearlyRound();
+        // From above each part has down a + 1 on its up of a: with the leaf's steps no circle yet.
+        doubly("but for a step", x, true);
+        x.depend(0, 8, 29);
+        doubly("with all", x, false);
+    }
+
+    /** V comes from the root down to the eighth symbol. */
+    private static void roundAllEightSymbols() {
+        AttributeKinds x = Samples.ladder();
+        x.depend(7, 1, 0);
+        doubly("but for the top", x, true);
+        x.depend(0, 8, 9);
+        doubly("with the top", x, false);
+    }
+
+    /** It throws nothing, however many graphs a symbol has. */
+    private static void whateverTheGraphs() {
+        for (int graphs = 10; graphs <= 15; graphs++) {
+            AttributeKinds x = Samples.leaves(graphs);
+            doubly("of " + graphs + " graphs", x, true);
+            int top = x.production(0, 1, NONE, NONE);
+            x.depend(top, 8, 11);
+            doubly("of " + graphs + " graphs and a circle", x, false);
+        }
     }
 }

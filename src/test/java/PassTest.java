@@ -1,3 +1,5 @@
+import java.util.function.Supplier;
+
 /** Promise 11: pass. */
 final class PassTest {
     private static final int NONE = AttributeKinds.NONE;
@@ -5,12 +7,16 @@ final class PassTest {
     public static void main(String[] args) {
         withoutProductions();
         partsInOrder();
+        partsInOrderInOnePass();
         onlyFromTheRight();
+        inEachProduction();
         alsoWithoutTrees();
         leftOverInTheMiddle();
         leftOverTwice();
         round();
-        wrongNumbers();
+        someBesideTheRest();
+        noSuchSymbol();
+        noSuchAttribute();
         Check.end();
     }
 
@@ -26,6 +32,12 @@ final class PassTest {
         numbers(x, 0, false, 1);
         numbers(x, 1, false, 1, 1, 1, 1);
         numbers(x, 1, true, 1, 1, 1, 1);
+        AttributeKinds full = new AttributeKinds();
+        Samples.fill(full);
+        for (int s = 0; s < 8; s++) {
+            numbers(full, s, false, 1, 1, 1, 1, 1, 1);
+            numbers(full, s, true, 1, 1, 1, 1, 1, 1);
+        }
     }
 
     /** Symbol i, a part, has down 0 and up 1: down of which part on up of which. */
@@ -44,6 +56,31 @@ final class PassTest {
                 numbers(x, part, true, due, 1);
                 Check.same("passes(false)", x.passes(false), due);
                 Check.same("passes(true)", x.passes(true), due);
+            }
+        }
+    }
+
+    /**
+     * "up of a part before i (in a pass from the left; behind i in one from the right)": here all
+     * are of the same pass or of none, and a part is neither before nor behind itself.
+     */
+    private static void partsInOrderInOnePass() {
+        for (int part = 1; part <= 3; part++) {
+            for (int on = 1; on <= 3; on++) {
+                AttributeKinds x = new AttributeKinds();
+                x.symbol(0, 0);
+                x.symbol(2, 1);
+                int leaf = x.production(1, NONE, NONE, NONE);
+                int three = x.production(1, 1, 1, 1);
+                x.depend(leaf, 1, 0);
+                for (int i = 1; i <= 3; i++) {
+                    x.depend(three, 8 * i, i == part ? 8 * on + 1 : 0);
+                    x.depend(three, 1, 8 * i + 1);
+                }
+                int fromLeft = on < part ? 1 : NONE;
+                int byTurns = on < part ? 1 : on > part ? 2 : NONE;
+                numbers(x, 1, false, fromLeft, fromLeft);
+                numbers(x, 1, true, byTurns, byTurns);
             }
         }
     }
@@ -76,6 +113,24 @@ final class PassTest {
         numbers(y, 1, true, NONE, NONE);
     }
 
+    /** "in each production": be it the only one of sixteen, the first or the last. */
+    private static void inEachProduction() {
+        for (int p = 0; p < 16; p++) {
+            AttributeKinds x = new AttributeKinds();
+            x.symbol(0, 0);
+            x.symbol(2, 1);
+            for (int i = 0; i < 16; i++) {
+                x.production(0, 1, 1, 1);
+            }
+            x.depend(p, 24, 17);
+            numbers(x, 1, false, 1, 1);
+            numbers(x, 1, true, 1, 1);
+            x.depend(p, 24, 25);
+            numbers(x, 1, false, 2, 1);
+            numbers(x, 1, true, 2, 1);
+        }
+    }
+
     /** Productions whose parts have no trees bind as the others do. */
     private static void alsoWithoutTrees() {
         AttributeKinds x = new AttributeKinds();
@@ -90,7 +145,10 @@ final class PassTest {
         numbers(x, 1, true, NONE, NONE);
     }
 
-    /** Pass 2, from the right, gives none; pass 3, from the left, does. */
+    /**
+     * "by turns: when two one behind the other don't": pass 2, from the right, gives none, but
+     * pass 3, from the left, does.
+     */
     private static void leftOverInTheMiddle() {
         AttributeKinds x = new AttributeKinds();
         x.symbol(1, 0);
@@ -140,21 +198,67 @@ final class PassTest {
         numbers(x, 1, true, NONE, NONE, NONE, NONE);
     }
 
-    private static void refuse(int symbol, int a) {
+    /** "the rest have none": up 2, down 3 and up 4 have a number beside them. */
+    private static void someBesideTheRest() {
+        AttributeKinds x = new AttributeKinds();
+        x.symbol(2, 0);
+        x.symbol(6, 9);
+        int top = x.production(0, 1, NONE, NONE);
+        int leaf = x.production(1, NONE, NONE, NONE);
+        x.depend(top, 8, 9);
+        x.depend(leaf, 1, 0);
+        x.depend(top, 11, 10);
+        // Up 4 waits for one that has a number later, up 5 for one that never has.
+        x.depend(leaf, 4, 3);
+        x.depend(leaf, 5, 3);
+        x.depend(leaf, 5, 0);
+        x.depend(top, 0, 12);
+        x.depend(top, 1, 13);
+        for (boolean byTurns : new boolean[] {false, true}) {
+            numbers(x, 0, byTurns, 2, NONE);
+            numbers(x, 1, byTurns, NONE, NONE, 1, 2, 2, NONE);
+            Check.same("passes(" + byTurns + ")", x.passes(byTurns), NONE);
+        }
+    }
+
+    private static void refuse(Supplier<AttributeKinds> made, int symbol, int a) {
         for (boolean flag : new boolean[] {false, true}) {
-            Check.refusedUnchanged(Samples::freeButNotStrongly,
-                    "pass(" + symbol + ", " + a + ", " + flag + ")",
+            Check.refusedUnchanged(made, "pass(" + symbol + ", " + a + ", " + flag + ")",
                     IndexOutOfBoundsException.class, x -> x.pass(symbol, a, flag));
         }
     }
 
-    private static void wrongNumbers() {
-        for (int s : new int[] {-1, 2, 7, 8, Integer.MAX_VALUE, Integer.MIN_VALUE}) {
-            refuse(s, 0);
+    /** "IndexOutOfBoundsException if there is no such symbol": with one, two, .. eight. */
+    private static void noSuchSymbol() {
+        for (int count = 1; count <= 8; count++) {
+            int made = count;
+            Supplier<AttributeKinds> some = () -> Samples.ofAttributes(made, 3);
+            numbers(some.get(), count - 1, true, 1, 1, 1);
+            int[] wrong = {-1, -2, count, count + 1, 8, 9, 32, Integer.MAX_VALUE,
+                Integer.MIN_VALUE};
+            for (int s : wrong) {
+                refuse(some, s, 0);
+            }
         }
-        for (int a : new int[] {-1, 4, 5, 6, 8, Integer.MAX_VALUE, Integer.MIN_VALUE}) {
-            refuse(1, a);
+    }
+
+    /** ".. or attribute": of none, one, .. six. */
+    private static void noSuchAttribute() {
+        for (int attributes = 0; attributes <= 6; attributes++) {
+            int made = attributes;
+            Supplier<AttributeKinds> some = () -> Samples.ofAttributes(2, made);
+            if (attributes > 0) {
+                Check.same("pass of the last", some.get().pass(1, attributes - 1, true), 1);
+            }
+            int[] wrong = {-1, -2, attributes, attributes + 1, 6, 7, 8, 32, 33,
+                Integer.MAX_VALUE, Integer.MIN_VALUE};
+            for (int a : wrong) {
+                refuse(some, 0, a);
+                refuse(some, 1, a);
+            }
         }
-        refuse(0, 1);
+        // The root has one attribute here, symbol 1 four.
+        refuse(Samples::freeButNotStrongly, 0, 1);
+        refuse(Samples::freeButNotStrongly, 1, 4);
     }
 }

@@ -1,3 +1,5 @@
+import java.util.function.Supplier;
+
 /** Promise 10: relation. */
 final class RelationTest {
     private static final int NONE = AttributeKinds.NONE;
@@ -6,9 +8,14 @@ final class RelationTest {
         unions();
         fromAbove();
         handedDown();
+        overAllEightSymbols();
         withoutThePartItself();
+        everyBit();
+        emptyOnes();
         noRelation();
-        wrongNumbers();
+        noRelationOfAPart();
+        noSuchSymbol();
+        noSuchAttribute();
         Check.end();
     }
 
@@ -71,61 +78,171 @@ final class RelationTest {
         }
     }
 
-    /** Down 0 of a part on up 2, up 2 on down 1 in the part, down 1 on up 3: not 0 on 3. */
-    private static void withoutThePartItself() {
-        AttributeKinds x = Samples.pair();
-        int top = x.production(0, 1, NONE, NONE);
-        int leaf = x.production(1, NONE, NONE, NONE);
-        x.depend(leaf, 2, 1);
-        x.depend(top, 8, 10);
-        x.depend(top, 9, 11);
-        relations(x, 1, false, 0, 0, 2, 0);
-        relations(x, 1, true, 4, 8, 0, 0);
+    /** U comes up from the last symbol to the first, V down from the root to the last. */
+    private static void overAllEightSymbols() {
+        AttributeKinds x = Samples.ladder();
+        for (int s = 1; s < 8; s++) {
+            relations(x, s, false, 0, 0);
+            relations(x, s, true, 0, 0);
+        }
+        x.depend(7, 1, 0);
+        for (int s = 1; s < 8; s++) {
+            relations(x, s, false, 0, 1);
+            relations(x, s, true, 0, 0);
+        }
+        x.depend(0, 8, 9);
+        for (int s = 1; s < 8; s++) {
+            relations(x, s, false, 0, 1);
+            relations(x, s, true, 2, 0);
+        }
     }
 
+    /** Down 0 of a part on up 2, up 2 on down 1 in the part, down 1 on up 3: not 0 on 3. */
+    private static void withoutThePartItself() {
+        for (int part = 1; part <= 3; part++) {
+            AttributeKinds x = Samples.pair();
+            x.symbol(0, 0);
+            int top = x.production(0, part == 1 ? 1 : 2, part == 2 ? 1 : 2, part == 3 ? 1 : 2);
+            x.production(2, NONE, NONE, NONE);
+            int leaf = x.production(1, NONE, NONE, NONE);
+            x.depend(leaf, 2, 1);
+            x.depend(top, 8 * part, 8 * part + 2);
+            x.depend(top, 8 * part + 1, 8 * part + 3);
+            relations(x, 1, false, 0, 0, 2, 0);
+            relations(x, 1, true, 4, 8, 0, 0);
+        }
+    }
+
+    /** "a bit each": of each attribute on each other one, the first and the last among them. */
+    private static void everyBit() {
+        for (int a = 0; a < 6; a++) {
+            int others = 63 & ~(1 << a);
+            AttributeKinds up = new AttributeKinds();
+            up.symbol(0, 0);
+            up.symbol(6, others);
+            int leaf = up.production(1, NONE, NONE, NONE);
+            AttributeKinds down = new AttributeKinds();
+            down.symbol(0, 0);
+            down.symbol(6, 1 << a);
+            int top = down.production(0, 1, NONE, NONE);
+            down.production(1, NONE, NONE, NONE);
+            int bits = 0;
+            for (int on = 0; on < 6; on++) {
+                if (on != a) {
+                    up.depend(leaf, a, on);
+                    down.depend(top, 8 + a, 8 + on);
+                    bits |= 1 << on;
+                }
+                only(up, a, false, bits);
+                only(down, a, true, bits);
+            }
+        }
+    }
+
+    /** No attribute but this one depends on any, nor does it in the other relation. */
+    private static void only(AttributeKinds x, int attribute, boolean fromAbove, int bits) {
+        for (int a = 0; a < 6; a++) {
+            String call = "relation(1, " + a + ", ";
+            Check.same(call + fromAbove, x.relation(1, a, fromAbove), a == attribute ? bits : 0);
+            Check.same(call + !fromAbove, x.relation(1, a, !fromAbove), 0);
+        }
+    }
+
+    /** "be it empty": 0, which is not NONE, whether a production has it as a part or not. */
+    private static void emptyOnes() {
+        AttributeKinds x = Samples.pair();
+        x.production(1, NONE, NONE, NONE);
+        relations(x, 1, false, 0, 0, 0, 0);
+        relations(x, 1, true, 0, 0, 0, 0);
+        x.production(0, 1, NONE, NONE);
+        relations(x, 0, false, 0);
+        relations(x, 0, true, 0);
+        relations(x, 1, true, 0, 0, 0, 0);
+    }
+
+    /** "NONE if the symbol has no U": for U and V, and for attributes up and down. */
     private static void noRelation() {
         AttributeKinds x = Samples.pair();
         relations(x, 0, false, NONE);
+        relations(x, 0, true, NONE);
         relations(x, 1, false, NONE, NONE, NONE, NONE);
         relations(x, 1, true, NONE, NONE, NONE, NONE);
         x.production(0, 1, NONE, NONE);
         x.depend(0, 8, 11);
         relations(x, 0, false, NONE);
         relations(x, 1, true, NONE, NONE, NONE, NONE);
+        x.production(1, 1, NONE, NONE);
+        relations(x, 1, false, NONE, NONE, NONE, NONE);
         x.production(0, NONE, NONE, NONE);
         relations(x, 0, false, 0);
         relations(x, 0, true, 0);
         relations(x, 1, true, NONE, NONE, NONE, NONE);
         x.production(1, NONE, NONE, NONE);
+        relations(x, 1, false, 0, 0, 0, 0);
         relations(x, 1, true, 8, 0, 0, 0);
-        // A part without a U beside it: what that production has doesn't count.
-        x.clear();
-        x.symbol(0, 0);
-        x.symbol(2, 1);
-        x.symbol(0, 0);
-        x.production(1, NONE, NONE, NONE);
-        x.production(0, 1, 2, NONE);
-        x.depend(1, 8, 9);
-        relations(x, 1, true, 0, 0);
-        x.production(2, NONE, NONE, NONE);
-        relations(x, 1, true, 2, 0);
     }
 
-    private static void refuse(int symbol, int a) {
+    /** "for each production whose parts all have a U": else it gives nothing to U or V. */
+    private static void noRelationOfAPart() {
+        for (int place = 1; place <= 3; place++) {
+            AttributeKinds x = new AttributeKinds();
+            x.symbol(0, 0);
+            x.symbol(2, 1);
+            x.symbol(0, 0);
+            x.symbol(2, 1);
+            int other = place == 1 ? 2 : 1;
+            x.production(1, NONE, NONE, NONE);
+            x.production(3, NONE, NONE, NONE);
+            int top = x.production(3, place == 1 ? 2 : 1, place == 2 ? 2 : 1, place == 3 ? 2 : 1);
+            x.depend(top, 8 * other, 8 * other + 1);
+            x.depend(top, 1, 0);
+            relations(x, 1, true, 0, 0);
+            relations(x, 3, false, 0, 0);
+            x.production(2, NONE, NONE, NONE);
+            relations(x, 1, true, 2, 0);
+            relations(x, 3, false, 0, 1);
+        }
+    }
+
+    private static void refuse(Supplier<AttributeKinds> made, int symbol, int a) {
         for (boolean flag : new boolean[] {false, true}) {
-            Check.refusedUnchanged(Samples::freeButNotStrongly,
-                    "relation(" + symbol + ", " + a + ", " + flag + ")",
+            Check.refusedUnchanged(made, "relation(" + symbol + ", " + a + ", " + flag + ")",
                     IndexOutOfBoundsException.class, x -> x.relation(symbol, a, flag));
         }
     }
 
-    private static void wrongNumbers() {
-        for (int s : new int[] {-1, 2, 7, 8, Integer.MAX_VALUE, Integer.MIN_VALUE}) {
-            refuse(s, 0);
+    /** "IndexOutOfBoundsException if there is no such symbol": with one, two, .. eight. */
+    private static void noSuchSymbol() {
+        for (int count = 1; count <= 8; count++) {
+            int made = count;
+            Supplier<AttributeKinds> some = () -> Samples.ofAttributes(made, 3);
+            relations(some.get(), count - 1, false, NONE, NONE, NONE);
+            int[] wrong = {-1, -2, count, count + 1, 8, 9, 32, Integer.MAX_VALUE,
+                Integer.MIN_VALUE};
+            for (int s : wrong) {
+                refuse(some, s, 0);
+            }
         }
-        for (int a : new int[] {-1, 4, 5, 6, 8, Integer.MAX_VALUE, Integer.MIN_VALUE}) {
-            refuse(1, a);
+    }
+
+    /** ".. or attribute": of none, one, .. six. */
+    private static void noSuchAttribute() {
+        for (int attributes = 0; attributes <= 6; attributes++) {
+            int made = attributes;
+            Supplier<AttributeKinds> some = () -> Samples.ofAttributes(2, made);
+            if (attributes > 0) {
+                Check.same("relation of the last", some.get().relation(1, attributes - 1, false),
+                        NONE);
+            }
+            int[] wrong = {-1, -2, attributes, attributes + 1, 6, 7, 8, 32, 33,
+                Integer.MAX_VALUE, Integer.MIN_VALUE};
+            for (int a : wrong) {
+                refuse(some, 0, a);
+                refuse(some, 1, a);
+            }
         }
-        refuse(0, 1);
+        // The root has one attribute here, symbol 1 four.
+        refuse(Samples::freeButNotStrongly, 0, 1);
+        refuse(Samples::freeButNotStrongly, 1, 4);
     }
 }

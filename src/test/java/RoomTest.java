@@ -50,6 +50,10 @@ final class RoomTest {
                 }
             }
         }
+        for (; calls < CALLS - 7; calls++) {
+            Check.same("graphs(0)", x.graphs(0), 0);
+        }
+        // The last seven calls that the document promises anything about.
         Check.same("graphs(1)", x.graphs(1), 8);
         Check.same("circular()", x.circular(), false);
         Check.same("strong()", x.strong(), true);
@@ -57,8 +61,6 @@ final class RoomTest {
         Check.same("relation(1, 5, false)", x.relation(1, 5, false), 4);
         Check.same("passes(false)", x.passes(false), 1);
         Check.same("passes(true)", x.passes(true), 1);
-        if (calls + 7 > CALLS) {
-            Check.fail("more calls than the document promises: " + (calls + 7));
-        }
+        Check.same("calls of one object", calls + 7, CALLS);
     }
 }

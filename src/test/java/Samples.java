@@ -13,6 +13,15 @@ final class Samples {
         return x;
     }
 
+    /** So many symbols with so many attributes each, all up. */
+    static AttributeKinds ofAttributes(int symbols, int attributes) {
+        AttributeKinds x = new AttributeKinds();
+        for (int s = 0; s < symbols; s++) {
+            x.symbol(attributes, 0);
+        }
+        return x;
+    }
+
     /** Two trees of symbol 1, each with a graph of one step; no tree of the root has a circle. */
     static AttributeKinds freeButNotStrongly() {
         AttributeKinds x = pair();
@@ -94,6 +103,64 @@ final class Samples {
         x.depend(both, 8 * to, 8 * from + 1);
         x.depend(both, 1, 8 * to + 1);
         x.depend(leaf, 1, 0);
+        return x;
+    }
+
+    /**
+     * A top of three parts, each with three down and three up, all nine steps upwards in its
+     * leaf, and eight of nine steps from part to part: the ninth, down 0 of part 1 on up 5 of
+     * part 3, would close a circle of all eighteen. The top is production 0.
+     */
+    static AttributeKinds nearlyRound() {
+        AttributeKinds x = new AttributeKinds();
+        x.symbol(0, 0);
+        x.symbol(6, 7);
+        x.production(0, 1, 1, 1);
+        x.production(1, NONE, NONE, NONE);
+        for (int a = 0; a < 3; a++) {
+            x.depend(1, 3 + a, a);
+        }
+        for (int i = 1; i < 9; i++) {
+            x.depend(0, 8 * (i % 3 + 1) + i / 3, 8 * ((i - 1) % 3 + 1) + 3 + (i - 1) / 3);
+        }
+        return x;
+    }
+
+    /**
+     * All eight symbols, each the part of the one before, with down 0 and up 1 (the root without)
+     * handed on; symbol 7's leaf is production 7. The circle lacks two steps: down 8 of the top
+     * on up 9 there, and up 1 on down 0 of the leaf.
+     */
+    static AttributeKinds ladder() {
+        AttributeKinds x = new AttributeKinds();
+        x.symbol(0, 0);
+        for (int s = 1; s < 8; s++) {
+            x.symbol(2, 1);
+        }
+        for (int s = 0; s < 8; s++) {
+            x.production(s, s < 7 ? s + 1 : NONE, NONE, NONE);
+        }
+        for (int p = 1; p < 7; p++) {
+            x.depend(p, 8, 0);
+            x.depend(p, 1, 9);
+        }
+        return x;
+    }
+
+    /**
+     * The root's only production has parts 1 and a circle with the first of them, but for the
+     * part in one place (2 or 3, or 1 itself), which is symbol 2, without a production.
+     */
+    static AttributeKinds circleBesideNoTree(int place) {
+        AttributeKinds x = new AttributeKinds();
+        x.symbol(0, 0);
+        x.symbol(2, 1);
+        x.symbol(2, 1);
+        int leaf = x.production(1, NONE, NONE, NONE);
+        x.depend(leaf, 1, 0);
+        int top = x.production(0, place == 1 ? 2 : 1, place == 2 ? 2 : 1, place == 3 ? 2 : 1);
+        int round = place == 1 ? 2 : 1;
+        x.depend(top, 8 * round, 8 * round + 1);
         return x;
     }
 }
