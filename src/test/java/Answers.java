@@ -2,6 +2,9 @@ import java.util.function.Supplier;
 
 /** All that an object answers, as a text. */
 final class Answers {
+    /** More than there can be, so that the end is reached even if wrong ones are answered. */
+    private static final int MANY = 40;
+
     private Answers() {
     }
 
@@ -13,10 +16,10 @@ final class Answers {
         text.append(" passes ").append(x.passes(false));
         text.append(" by turns ").append(x.passes(true)).append('\n');
         String graphs = graphs(x, 0);
-        for (int s = 0; graphs != null; s++) {
+        for (int s = 0; graphs != null && s < MANY; s++) {
             text.append("symbol ").append(s).append(": graphs ").append(graphs).append('\n');
             String attribute = attribute(x, s, 0);
-            for (int a = 0; attribute != null; a++) {
+            for (int a = 0; attribute != null && a < MANY; a++) {
                 text.append("  ").append(a).append(": ").append(attribute).append('\n');
                 attribute = attribute(x, s, a + 1);
             }
@@ -44,7 +47,7 @@ final class Answers {
     /** By production and x: for each y 1 if it is new, 0 if not, . if it can't be. */
     static String dependences(Supplier<AttributeKinds> made) {
         StringBuilder text = new StringBuilder();
-        for (int p = 0; hasProduction(made.get(), p); p++) {
+        for (int p = 0; p < MANY && hasProduction(made.get(), p); p++) {
             for (int place = 0; place < 32; place++) {
                 // A new object for each, so that none gets more calls than it is promised for.
                 text.append(p).append(' ').append(place).append(' ');

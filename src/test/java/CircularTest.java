@@ -9,6 +9,7 @@ final class CircularTest {
         ofAnySymbol();
         onlyWithTrees();
         onlyWithTreesOfAllParts();
+        severalCircles();
         roundTwoParts();
         roundAllOfAProduction();
         roundAllEightSymbols();
@@ -91,6 +92,20 @@ final class CircularTest {
         }
     }
 
+    /** "if some tree of some symbol is": one, two, .. of them. */
+    private static void severalCircles() {
+        AttributeKinds x = new AttributeKinds();
+        x.symbol(0, 0);
+        x.symbol(2, 1);
+        int leaf = x.production(1, NONE, NONE, NONE);
+        x.depend(leaf, 1, 0);
+        for (int p = 1; p < 16; p++) {
+            x.production(0, 1, NONE, NONE);
+            x.depend(p, 8, 9);
+            Check.same("circular() by " + p, x.circular(), true);
+        }
+    }
+
     private static void roundTwoParts() {
         AttributeKinds x = new AttributeKinds();
         x.symbol(0, 0);
@@ -114,11 +129,14 @@ final class CircularTest {
     }
 
     private static void roundAllEightSymbols() {
-        AttributeKinds x = Samples.ladder();
-        x.depend(0, 8, 9);
-        Check.same("circular() but for the leaf", x.circular(), false);
-        x.depend(7, 1, 0);
-        Check.same("circular()", x.circular(), true);
+        for (boolean topFirst : new boolean[] {true, false}) {
+            AttributeKinds x = Samples.ladder(topFirst);
+            int top = topFirst ? 0 : 7;
+            x.depend(top, 8, 9);
+            Check.same("circular() but for the leaf", x.circular(), false);
+            x.depend(7 - top, 1, 0);
+            Check.same("circular() with the leaf", x.circular(), true);
+        }
     }
 
     /** Symbol 1 has ten graphs and a circle under the root; symbol 2 has those and one more. */

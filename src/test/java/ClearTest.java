@@ -7,6 +7,7 @@ final class ClearTest {
 
     public static void main(String[] args) {
         allGoes();
+        symbolsAlone();
         theRootIsNextAgain();
         dependencesGo();
         dependencesOfAllSixteenGo();
@@ -39,7 +40,30 @@ final class ClearTest {
                 () -> x.depend(0, 0, 0));
         Check.refused("production(0)", IllegalArgumentException.class,
                 () -> x.production(0, NONE, NONE, NONE));
-        Check.same("what can be added", Answers.additions(x), Answers.additions(fresh));
+        Samples.fill(x);
+        Samples.fill(fresh);
+        Check.same("all that is made anew", Answers.of(x), Answers.of(fresh));
+    }
+
+    /** The same symbols again, without productions: no trees and no relations are left. */
+    private static void symbolsAlone() {
+        AttributeKinds x = new AttributeKinds();
+        makeSymbols(x);
+        for (int s = 0; s < 8; s++) {
+            x.production(s, NONE, NONE, NONE);
+        }
+        Answers.of(x);
+        x.clear();
+        makeSymbols(x);
+        AttributeKinds fresh = new AttributeKinds();
+        makeSymbols(fresh);
+        Check.same("all of symbols alone", Answers.of(x), Answers.of(fresh));
+    }
+
+    private static void makeSymbols(AttributeKinds x) {
+        for (int s = 0; s < 8; s++) {
+            x.symbol(2, s == 0 ? 0 : 1);
+        }
     }
 
     private static void theRootIsNextAgain() {
@@ -76,15 +100,19 @@ final class ClearTest {
         for (int round = 0; round < 3; round++) {
             Samples.fill(x);
             for (int p = 0; p < 16; p++) {
-                for (int part = 1; part <= 3; part++) {
-                    Check.same("depend(" + p + ") in round " + round,
-                            x.depend(p, 8 * part + 2, 8 * part + 5), true);
-                    Check.same("depend(" + p + ") again", x.depend(p, 8 * part + 2, 8 * part + 5),
-                            false);
-                }
+                // Production 0 and 8 are the root's, whose attribute 0 is up.
+                isNew(x, p, p % 8 == 0 ? 0 : 3, 11);
+                isNew(x, p, 8, 21);
+                isNew(x, p, 26, 29);
             }
             x.clear();
         }
+    }
+
+    private static void isNew(AttributeKinds x, int p, int from, int to) {
+        String call = "depend(" + p + ", " + from + ", " + to + ")";
+        Check.same(call, x.depend(p, from, to), true);
+        Check.same(call + " again", x.depend(p, from, to), false);
     }
 
     private static void roomComesBack() {

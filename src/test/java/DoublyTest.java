@@ -11,6 +11,7 @@ final class DoublyTest {
         onlyWithAllParts();
         nothingComesOfWhatHasNoU();
         emptyAtFirst();
+        severalCircles();
         roundAllOfAProduction();
         roundAllEightSymbols();
         whateverTheGraphs();
@@ -137,6 +138,18 @@ final class DoublyTest {
         doubly("with a step above", x, false);
     }
 
+    /** "no production .. has a circle": one, two, .. leaves have. */
+    private static void severalCircles() {
+        AttributeKinds x = Samples.stronglyButNotDoubly();
+        for (int p = 3; p < 16; p++) {
+            doubly("with circles by " + (p - 2), x, false);
+            x.production(1, NONE, NONE, NONE);
+            x.depend(p, 2, 0);
+            x.depend(p, 3, 1);
+        }
+        doubly("with circles by 14", x, false);
+    }
+
     private static void roundAllOfAProduction() {
         AttributeKinds x = Samples.nearlyRound();
         // From above each part has down a + 1 on its up of a: with the leaf's steps no circle yet.
@@ -147,11 +160,14 @@ final class DoublyTest {
 
     /** V comes from the root down to the eighth symbol. */
     private static void roundAllEightSymbols() {
-        AttributeKinds x = Samples.ladder();
-        x.depend(7, 1, 0);
-        doubly("but for the top", x, true);
-        x.depend(0, 8, 9);
-        doubly("with the top", x, false);
+        for (boolean topFirst : new boolean[] {true, false}) {
+            AttributeKinds x = Samples.ladder(topFirst);
+            int top = topFirst ? 0 : 7;
+            x.depend(7 - top, 1, 0);
+            doubly("but for the top", x, true);
+            x.depend(top, 8, 9);
+            doubly("with the top", x, false);
+        }
     }
 
     /** It throws nothing, however many graphs a symbol has. */

@@ -11,6 +11,9 @@ final class RelationTest {
         overAllEightSymbols();
         withoutThePartItself();
         everyBit();
+        everyBitOverAPart();
+        moreThanOneWay();
+        notTheUnionOfTheHead();
         emptyOnes();
         noRelation();
         noRelationOfAPart();
@@ -80,20 +83,21 @@ final class RelationTest {
 
     /** U comes up from the last symbol to the first, V down from the root to the last. */
     private static void overAllEightSymbols() {
-        AttributeKinds x = Samples.ladder();
-        for (int s = 1; s < 8; s++) {
-            relations(x, s, false, 0, 0);
-            relations(x, s, true, 0, 0);
+        for (boolean topFirst : new boolean[] {true, false}) {
+            AttributeKinds x = Samples.ladder(topFirst);
+            int top = topFirst ? 0 : 7;
+            ladderHas(x, 0, 0);
+            x.depend(7 - top, 1, 0);
+            ladderHas(x, 1, 0);
+            x.depend(top, 8, 9);
+            ladderHas(x, 1, 2);
         }
-        x.depend(7, 1, 0);
+    }
+
+    private static void ladderHas(AttributeKinds x, int upOnDown, int downOnUp) {
         for (int s = 1; s < 8; s++) {
-            relations(x, s, false, 0, 1);
-            relations(x, s, true, 0, 0);
-        }
-        x.depend(0, 8, 9);
-        for (int s = 1; s < 8; s++) {
-            relations(x, s, false, 0, 1);
-            relations(x, s, true, 2, 0);
+            relations(x, s, false, 0, upOnDown);
+            relations(x, s, true, downOnUp, 0);
         }
     }
 
@@ -146,6 +150,104 @@ final class RelationTest {
             Check.same(call + fromAbove, x.relation(1, a, fromAbove), a == attribute ? bits : 0);
             Check.same(call + !fromAbove, x.relation(1, a, !fromAbove), 0);
         }
+    }
+
+    /** "over some steps": from each attribute of a head to each other one through each part. */
+    private static void everyBitOverAPart() {
+        for (int a = 0; a < 6; a++) {
+            for (int part = 1; part <= 3; part++) {
+                throughUp(a, part);
+                throughDown(a, part);
+            }
+        }
+    }
+
+    /** Symbols 1 and 2 have all down but a, and symbol 2, the part, has a on all of them. */
+    private static void throughUp(int a, int part) {
+        AttributeKinds x = new AttributeKinds();
+        x.symbol(0, 0);
+        x.symbol(6, 63 & ~(1 << a));
+        x.symbol(6, 63 & ~(1 << a));
+        int over = x.production(1, 2, 2, 2);
+        int leaf = x.production(2, NONE, NONE, NONE);
+        x.depend(over, a, 8 * part + a);
+        int bits = 0;
+        for (int on = 0; on < 6; on++) {
+            if (on != a) {
+                x.depend(leaf, a, on);
+                only(x, a, false, bits);
+                x.depend(over, 8 * part + on, on);
+                bits |= 1 << on;
+            }
+            only(x, a, false, bits);
+        }
+    }
+
+    /** Symbols 1 and 2 have all up but a, and the root has a of symbol 2 on all of them. */
+    private static void throughDown(int a, int part) {
+        AttributeKinds x = new AttributeKinds();
+        x.symbol(0, 0);
+        x.symbol(6, 1 << a);
+        x.symbol(6, 1 << a);
+        int above = x.production(0, 2, NONE, NONE);
+        int over = x.production(2, part == 1 ? 1 : 0, part == 2 ? 1 : 0, part == 3 ? 1 : 0);
+        x.production(1, NONE, NONE, NONE);
+        x.production(0, NONE, NONE, NONE);
+        x.depend(over, 8 * part + a, a);
+        int bits = 0;
+        for (int on = 0; on < 6; on++) {
+            if (on != a) {
+                x.depend(above, 8 + a, 8 + on);
+                only(x, a, true, bits);
+                x.depend(over, on, 8 * part + on);
+                bits |= 1 << on;
+            }
+            only(x, a, true, bits);
+        }
+    }
+
+    /** What depends on another directly and over parts as well, depends on it. */
+    private static void moreThanOneWay() {
+        AttributeKinds x = new AttributeKinds();
+        x.symbol(0, 0);
+        x.symbol(2, 1);
+        x.symbol(2, 1);
+        int over = x.production(1, 2, 2, NONE);
+        int leaf = x.production(2, NONE, NONE, NONE);
+        x.depend(leaf, 1, 0);
+        x.depend(over, 1, 0);
+        for (int part = 1; part <= 2; part++) {
+            x.depend(over, 8 * part, 0);
+            x.depend(over, 1, 8 * part + 1);
+            relations(x, 1, false, 0, 1);
+        }
+        int top = x.production(0, 2, 2, 2);
+        x.depend(top, 8, 9);
+        for (int part = 2; part <= 3; part++) {
+            x.depend(top, 8, 8 * part + 1);
+            x.depend(top, 8 * part, 9);
+            relations(x, 2, true, 2, 0);
+        }
+    }
+
+    /** V comes of the V of the head and the U of the parts, not of the U of the head as well. */
+    private static void notTheUnionOfTheHead() {
+        AttributeKinds x = Samples.pair();
+        x.symbol(2, 1);
+        int top = x.production(0, 1, NONE, NONE);
+        int leaf = x.production(1, NONE, NONE, NONE);
+        int middle = x.production(1, 2, NONE, NONE);
+        x.production(2, NONE, NONE, NONE);
+        x.depend(top, 8, 10);
+        x.depend(top, 9, 11);
+        x.depend(leaf, 2, 1);
+        x.depend(middle, 8, 0);
+        x.depend(middle, 3, 9);
+        relations(x, 1, false, 0, 0, 2, 0);
+        relations(x, 1, true, 4, 8, 0, 0);
+        relations(x, 2, true, 0, 0);
+        x.depend(middle, 2, 1);
+        relations(x, 2, true, 2, 0);
     }
 
     /** "be it empty": 0, which is not NONE, whether a production has it as a part or not. */

@@ -128,17 +128,18 @@ final class Samples {
 
     /**
      * All eight symbols, each the part of the one before, with down 0 and up 1 (the root without)
-     * handed on; symbol 7's leaf is production 7. The circle lacks two steps: down 8 of the top
-     * on up 9 there, and up 1 on down 0 of the leaf.
+     * handed on. The circle lacks two steps: down 8 of the top on up 9 there, and up 1 on down 0
+     * of the leaf. Productions are made from the top (0) to the leaf (7), or from the leaf (0).
      */
-    static AttributeKinds ladder() {
+    static AttributeKinds ladder(boolean topFirst) {
         AttributeKinds x = new AttributeKinds();
         x.symbol(0, 0);
         for (int s = 1; s < 8; s++) {
             x.symbol(2, 1);
         }
-        for (int s = 0; s < 8; s++) {
-            x.production(s, s < 7 ? s + 1 : NONE, NONE, NONE);
+        for (int p = 0; p < 8; p++) {
+            int head = topFirst ? p : 7 - p;
+            x.production(head, head < 7 ? head + 1 : NONE, NONE, NONE);
         }
         for (int p = 1; p < 7; p++) {
             x.depend(p, 8, 0);

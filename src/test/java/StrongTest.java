@@ -8,6 +8,7 @@ final class StrongTest {
         noTreesNoCircle();
         onlyWithAllParts();
         emptyIsOneToo();
+        severalCircles();
         roundAllOfAProduction();
         roundAllEightSymbols();
         whateverTheGraphs();
@@ -78,6 +79,18 @@ final class StrongTest {
         strong("with the empty U", x, false);
     }
 
+    /** "no production .. has a circle": one, two, .. of them have. */
+    private static void severalCircles() {
+        AttributeKinds x = Samples.freeButNotStrongly();
+        for (int p = 3; p < 16; p++) {
+            strong("with circles by " + (p - 2), x, false);
+            x.production(0, 1, NONE, NONE);
+            x.depend(p, 9, 10);
+            x.depend(p, 8, 11);
+        }
+        strong("with circles by 14", x, false);
+    }
+
     private static void roundAllOfAProduction() {
         AttributeKinds x = Samples.nearlyRound();
         strong("but for a step", x, true);
@@ -87,11 +100,14 @@ final class StrongTest {
 
     /** The circle goes through the relations of all symbols, one above the other. */
     private static void roundAllEightSymbols() {
-        AttributeKinds x = Samples.ladder();
-        x.depend(0, 8, 9);
-        strong("but for the leaf", x, true);
-        x.depend(7, 1, 0);
-        strong("with the leaf", x, false);
+        for (boolean topFirst : new boolean[] {true, false}) {
+            AttributeKinds x = Samples.ladder(topFirst);
+            int top = topFirst ? 0 : 7;
+            x.depend(top, 8, 9);
+            strong("but for the leaf", x, true);
+            x.depend(7 - top, 1, 0);
+            strong("with the leaf", x, false);
+        }
     }
 
     /** It throws nothing, however many graphs a symbol has. */

@@ -17,6 +17,7 @@ final class SymbolTest {
         theRootHasNoneDown();
         theRootIsWhatIsMadeFirst();
         whichAreDown();
+        newAttributesAreAsked();
         eight();
         eightAndWrongToo();
         Check.end();
@@ -136,6 +137,21 @@ final class SymbolTest {
         } else {
             Check.refused(call, ILLEGAL, () -> x.depend(p, from, to));
         }
+    }
+
+    /** What was asked before a symbol was made says nothing of it. */
+    private static void newAttributesAreAsked() {
+        AttributeKinds x = new AttributeKinds();
+        Answers.of(x);
+        x.symbol(0, 0);
+        Answers.of(x);
+        x.symbol(1, 1);
+        for (boolean flag : new boolean[] {false, true}) {
+            Check.same("pass(1, 0, " + flag + ")", x.pass(1, 0, flag), 1);
+            Check.same("passes(" + flag + ")", x.passes(flag), 1);
+            Check.same("relation(1, 0, " + flag + ")", x.relation(1, 0, flag), NONE);
+        }
+        Check.same("graphs(1)", x.graphs(1), 0);
     }
 
     private static AttributeKinds full() {
