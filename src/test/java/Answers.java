@@ -48,13 +48,46 @@ final class Answers {
     static String dependences(Supplier<AttributeKinds> made) {
         StringBuilder text = new StringBuilder();
         for (int p = 0; p < MANY && hasProduction(made.get(), p); p++) {
-            for (int place = 0; place < 32; place++) {
-                // A new object for each, so that none gets more calls than it is promised for.
-                text.append(p).append(' ').append(place).append(' ');
-                text.append(dependences(made.get(), p, place)).append('\n');
-            }
+            text.append("production ").append(p).append('\n');
+            addDependences(text, made, p);
         }
         return text.toString();
+    }
+
+    /** The same of a production more, whose head and part is this or that symbol. */
+    static String laterDependences(Supplier<AttributeKinds> made) {
+        StringBuilder text = new StringBuilder();
+        for (int s = 0; s < MANY && graphs(made.get(), s) != null; s++) {
+            int symbol = s;
+            int p = addProduction(made.get(), symbol);
+            if (p < 0) {
+                break;
+            }
+            text.append("symbol ").append(s).append('\n');
+            addDependences(text, () -> {
+                AttributeKinds x = made.get();
+                addProduction(x, symbol);
+                return x;
+            }, p);
+        }
+        return text.toString();
+    }
+
+    /** -1 if there is no room for it. */
+    private static int addProduction(AttributeKinds x, int symbol) {
+        try {
+            return x.production(symbol, symbol, -1, -1);
+        } catch (UnsupportedOperationException e) {
+            return -1;
+        }
+    }
+
+    private static void addDependences(StringBuilder text, Supplier<AttributeKinds> made, int p) {
+        for (int place = 0; place < 32; place++) {
+            // A new object for each, so that none gets more calls than it is promised for.
+            text.append(place).append(' ');
+            text.append(dependences(made.get(), p, place)).append('\n');
+        }
     }
 
     private static boolean hasProduction(AttributeKinds x, int p) {

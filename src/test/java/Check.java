@@ -62,6 +62,8 @@ final class Check {
         };
         same("which dependences are new behind " + call, Answers.dependences(refusing),
                 Answers.dependences(made));
+        same("which dependences can be behind " + call, Answers.laterDependences(refusing),
+                Answers.laterDependences(made));
     }
 
     static void fail(String what) {

@@ -9,6 +9,7 @@ final class RelationTest {
         fromAbove();
         handedDown();
         overAllEightSymbols();
+        twoAtOnce();
         withoutThePartItself();
         everyBit();
         everyBitOverAPart();
@@ -91,6 +92,30 @@ final class RelationTest {
             ladderHas(x, 1, 0);
             x.depend(top, 8, 9);
             ladderHas(x, 1, 2);
+        }
+    }
+
+    /** Two branches under the root, made from their leaves: in both V comes down as far. */
+    private static void twoAtOnce() {
+        AttributeKinds x = new AttributeKinds();
+        x.symbol(0, 0);
+        for (int s = 1; s < 7; s++) {
+            x.symbol(2, 1);
+        }
+        for (int s = 6; s > 0; s--) {
+            int p = x.production(s, s < 5 ? s + 2 : NONE, NONE, NONE);
+            if (s < 5) {
+                x.depend(p, 8, 0);
+                x.depend(p, 1, 9);
+            }
+        }
+        for (int s = 1; s <= 2; s++) {
+            int top = x.production(0, s, NONE, NONE);
+            x.depend(top, 8, 9);
+        }
+        for (int s = 1; s < 7; s++) {
+            relations(x, s, true, 2, 0);
+            relations(x, s, false, 0, 0);
         }
     }
 
