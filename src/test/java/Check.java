@@ -46,20 +46,20 @@ final class Check {
     /** That a call on a fresh object throws this, and that nothing then is answered otherwise. */
     static void refusedUnchanged(Supplier<AttributeKinds> made, String call,
             Class<? extends RuntimeException> due, Consumer<AttributeKinds> run) {
-        AttributeKinds x = made.get();
-        AttributeKinds untouched = made.get();
-        refused(call, due, () -> run.accept(x));
-        same("what is answered behind " + call, Answers.of(x), Answers.of(untouched));
-        // Behind answers that may have been kept as well.
-        refused(call, due, () -> run.accept(x));
-        same("what is answered behind " + call, Answers.of(x), Answers.of(untouched));
-        same("what can be added behind " + call, Answers.additions(x),
-                Answers.additions(untouched));
         Supplier<AttributeKinds> refusing = () -> {
-            AttributeKinds y = made.get();
-            refused(call, due, () -> run.accept(y));
-            return y;
+            AttributeKinds x = made.get();
+            refused(call, due, () -> run.accept(x));
+            return x;
         };
+        same("what is answered behind " + call, Answers.of(refusing.get()),
+                Answers.of(made.get()));
+        // Behind answers that may have been kept as well.
+        AttributeKinds asked = made.get();
+        String before = Answers.of(asked);
+        refused(call, due, () -> run.accept(asked));
+        same("what is answered again behind " + call, Answers.of(asked), before);
+        same("what can be added behind " + call, Answers.additions(refusing.get()),
+                Answers.additions(made.get()));
         same("which dependences are new behind " + call, Answers.dependences(refusing),
                 Answers.dependences(made));
         same("which dependences can be behind " + call, Answers.laterDependences(refusing),
