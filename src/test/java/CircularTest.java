@@ -173,5 +173,12 @@ final class CircularTest {
         ten.production(0, 1, NONE, NONE);
         ten.depend(10, 8, 11);
         Check.same("circular()", ten.circular(), true);
+        // The tree with the circle is of the very symbol, and its graph is one of the ten.
+        AttributeKinds own = Samples.leaves(10);
+        own.production(1, 1, NONE, NONE);
+        Check.same("circular()", own.circular(), false);
+        own.depend(10, 8, 11);
+        Check.same("circular()", own.circular(), true);
+        Check.same("graphs(1)", own.graphs(1), 10);
     }
 }

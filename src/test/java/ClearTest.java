@@ -11,6 +11,7 @@ final class ClearTest {
         theRootIsNextAgain();
         dependencesGo();
         dependencesOfAllSixteenGo();
+        whatCouldDependGoes();
         roomComesBack();
         answersGo();
         Check.end();
@@ -24,10 +25,16 @@ final class ClearTest {
                 () -> Samples.chain(2, 1), Samples::full);
         for (Supplier<AttributeKinds> made : all) {
             goes(made.get());
-            AttributeKinds asked = made.get();
-            Answers.of(asked);
-            goes(asked);
+            goes(asked(made));
+            nothingToAskOf(made.get());
+            nothingToAskOf(asked(made));
         }
+    }
+
+    private static AttributeKinds asked(Supplier<AttributeKinds> made) {
+        AttributeKinds x = made.get();
+        Answers.of(x);
+        return x;
     }
 
     private static void goes(AttributeKinds x) {
@@ -43,6 +50,29 @@ final class ClearTest {
         Samples.fill(x);
         Samples.fill(fresh);
         Check.same("all that is made anew", Answers.of(x), Answers.of(fresh));
+    }
+
+    /** Whatever symbol, attribute or production there was. */
+    private static void nothingToAskOf(AttributeKinds x) {
+        x.clear();
+        Class<IndexOutOfBoundsException> index = IndexOutOfBoundsException.class;
+        for (int i = 0; i < 8; i++) {
+            int s = i;
+            Check.refused("graphs(" + s + ")", index, () -> x.graphs(s));
+            Check.refused("production(" + s + ")", IllegalArgumentException.class,
+                    () -> x.production(s, NONE, NONE, NONE));
+            for (int k = 0; k < 6; k++) {
+                int a = k;
+                String of = "(" + s + ", " + a + ")";
+                Check.refused("relation" + of, index, () -> x.relation(s, a, a % 2 == 0));
+                Check.refused("pass" + of, index, () -> x.pass(s, a, a % 2 == 0));
+            }
+        }
+        for (int i = 0; i < 16; i++) {
+            int p = i;
+            Check.refused("depend(" + p + ")", index, () -> x.depend(p, 24, 29));
+            Check.refused("depend(" + p + ")", index, () -> x.depend(p, 2, 0));
+        }
     }
 
     /** The same symbols again, without productions: no trees and no relations are left. */
@@ -113,6 +143,41 @@ final class ClearTest {
         String call = "depend(" + p + ", " + from + ", " + to + ")";
         Check.same(call, x.depend(p, from, to), true);
         Check.same(call + " again", x.depend(p, from, to), false);
+    }
+
+    /** What could be x or y in a production that went says nothing of the next of its number. */
+    private static void whatCouldDependGoes() {
+        Supplier<AttributeKinds> behindAll = () -> {
+            AttributeKinds x = Samples.full();
+            x.clear();
+            return small(x);
+        };
+        Supplier<AttributeKinds> behindOther = () -> {
+            AttributeKinds x = new AttributeKinds();
+            x.symbol(0, 0);
+            x.symbol(6, 56);
+            for (int p = 0; p < 16; p++) {
+                x.production(1, 1, 1, 1);
+            }
+            x.clear();
+            return small(x);
+        };
+        String due = Answers.dependences(() -> small(new AttributeKinds()));
+        Check.same("what can depend behind clear() of all", Answers.dependences(behindAll), due);
+        Check.same("what can depend behind clear()", Answers.dependences(behindOther), due);
+    }
+
+    /** Productions with none to three parts, the head's and the parts' attributes up and down. */
+    private static AttributeKinds small(AttributeKinds x) {
+        x.symbol(1, 0);
+        x.symbol(2, 1);
+        x.production(0, NONE, NONE, NONE);
+        x.production(1, NONE, NONE, NONE);
+        x.production(1, 0, NONE, NONE);
+        x.production(1, 1, 0, NONE);
+        x.production(0, 0, 1, 0);
+        x.depend(1, 1, 0);
+        return x;
     }
 
     private static void roomComesBack() {

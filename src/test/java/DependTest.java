@@ -10,6 +10,7 @@ final class DependTest {
         noSuchProduction();
         sixteenProductions();
         everyPair();
+        everyPairThatCantBe();
         firstAndLastPlace();
         outsideOfAllPlaces();
         attributesThatAreNot();
@@ -71,24 +72,43 @@ final class DependTest {
      * and 17.
      */
     private static void everyPair() {
-        boolean[] defined = new boolean[32];
-        defined[0] = defined[8] = true;
-        boolean[] given = new boolean[32];
-        given[1] = given[2] = given[9] = given[16] = given[17] = true;
-        for (int xx = 0; xx < 32; xx++) {
+        for (int from = 0; from < 32; from++) {
             AttributeKinds x = three();
-            for (int yy = 0; yy < 32; yy++) {
-                String call = "depend(0, " + xx + ", " + yy + ")";
-                int from = xx;
-                int to = yy;
-                if (defined[xx] && given[yy]) {
-                    Check.same(call, x.depend(0, xx, yy), true);
-                    Check.same(call + " again", x.depend(0, xx, yy), false);
-                    Check.same(call + " of another", x.depend(1, xx, yy), true);
+            for (int to = 0; to < 32; to++) {
+                if (canBe(from, to)) {
+                    String call = "depend(0, " + from + ", " + to + ")";
+                    Check.same(call, x.depend(0, from, to), true);
+                    Check.same(call + " again", x.depend(0, from, to), false);
+                    Check.same(call + " of another", x.depend(1, from, to), true);
                 } else {
-                    Check.refused(call, ILLEGAL, () -> x.depend(0, from, to));
+                    refused(x, from, to);
                 }
             }
+        }
+    }
+
+    private static boolean canBe(int from, int to) {
+        return (from == 0 || from == 8)
+                && (to == 1 || to == 2 || to == 9 || to == 16 || to == 17);
+    }
+
+    private static void refused(AttributeKinds x, int from, int to) {
+        Check.refused("depend(0, " + from + ", " + to + ")", ILLEGAL, () -> x.depend(0, from, to));
+    }
+
+    /** "A call that throws changes nothing": all of the pairs that can't be. */
+    private static void everyPairThatCantBe() {
+        for (int i = 0; i < 32; i++) {
+            int from = i;
+            Check.refusedUnchanged(DependTest::three, "depend of " + from + " on all that can't be",
+                    ILLEGAL, x -> {
+                        for (int to = 0; to < 32; to++) {
+                            if (!canBe(from, to)) {
+                                refused(x, from, to);
+                            }
+                        }
+                        x.depend(0, from, 32);
+                    });
         }
     }
 

@@ -7,6 +7,8 @@ final class DoublyTest {
         unlikeStrong();
         oneSideOnly();
         throughTheMiddle();
+        inTheMiddleAlone();
+        ofAnySymbol();
         ofUnreachedSymbols();
         onlyWithAllParts();
         nothingComesOfWhatHasNoU();
@@ -75,6 +77,49 @@ final class DoublyTest {
         x.depend(leaf, 3, 1);
         doubly("with both", x, false);
         Check.same("strong()", x.strong(), true);
+    }
+
+    /**
+     * "a circle with its dependences, the V of its head and the U of its parts": two places above
+     * the middle, and two leaves below it, have a step each. Only the middle has all four.
+     */
+    private static void inTheMiddleAlone() {
+        for (int part = 1; part <= 3; part++) {
+            int[][] last = {{0, 9, 10}, {1, 8, 11}, {3, 2, 0}, {4, 3, 1}, {2, 8 * part, 0},
+                {2, 8 * part + 1, 1}, {2, 2, 8 * part + 2}, {2, 3, 8 * part + 3}};
+            for (int[] step : last) {
+                AttributeKinds x = Samples.pair();
+                x.symbol(4, 3);
+                x.symbol(0, 0);
+                x.production(0, 1, NONE, NONE);
+                x.production(0, 1, NONE, NONE);
+                x.production(1, part == 1 ? 2 : 3, part == 2 ? 2 : 3, part == 3 ? 2 : 3);
+                x.production(2, NONE, NONE, NONE);
+                x.production(2, NONE, NONE, NONE);
+                x.production(3, NONE, NONE, NONE);
+                for (int[] other : last) {
+                    if (other != step) {
+                        x.depend(other[0], other[1], other[2]);
+                    }
+                }
+                doubly("but for a step", x, true);
+                x.depend(step[0], step[1], step[2]);
+                doubly("with the middle", x, false);
+                Check.same("strong()", x.strong(), true);
+            }
+        }
+    }
+
+    /** "no production": whichever symbol is its head, whether the root has it in a tree or not. */
+    private static void ofAnySymbol() {
+        for (int head = 0; head < 8; head++) {
+            for (boolean underTheRoot : new boolean[] {false, true}) {
+                AttributeKinds x = Samples.nearlyRoundFor(head, underTheRoot);
+                doubly("but for a step of head " + head, x, true);
+                x.depend(2, 8, 11);
+                doubly("with head " + head, x, false);
+            }
+        }
     }
 
     /** A symbol that no tree of the root has counts as well. */

@@ -30,6 +30,7 @@ final class FaceTest {
     public static void main(String[] args) throws IOException {
         methods();
         otherMembers();
+        sizes();
         source();
         Check.end();
     }
@@ -83,6 +84,7 @@ final class FaceTest {
         Check.same("constructors", constructors.length, 1);
         Check.same("the constructor is public", constructors[0].getModifiers(), Modifier.PUBLIC);
         Check.same("its parameters", constructors[0].getParameterCount(), 0);
+        theConstant();
         for (Field field : kinds.getDeclaredFields()) {
             boolean constant = field.getName().equals("NONE");
             Check.same(field + " is private", Modifier.isPrivate(field.getModifiers()), !constant);
@@ -96,6 +98,38 @@ final class FaceTest {
                 Check.same(field + " is static", Modifier.isStatic(field.getModifiers()), false);
             }
         }
+    }
+
+    /** Rule 11: at most seven parameters, some twelve classes, some twenty fields a class. */
+    private static void sizes() {
+        Class<?>[] inside = AttributeKinds.class.getDeclaredClasses();
+        Check.same("at most 11 classes inside", inside.length <= 11, true);
+        size(AttributeKinds.class);
+        for (Class<?> each : inside) {
+            size(each);
+        }
+    }
+
+    private static void size(Class<?> of) {
+        int fields = 0;
+        for (Field field : of.getDeclaredFields()) {
+            fields += Modifier.isStatic(field.getModifiers()) ? 0 : 1;
+        }
+        Check.same(of + " has at most 20 fields", fields <= 20, true);
+        for (Method method : of.getDeclaredMethods()) {
+            Check.same(method + " takes at most 7", method.getParameterCount() <= 7, true);
+        }
+    }
+
+    /** "public static final int NONE = -1". */
+    private static void theConstant() {
+        Field[] open = AttributeKinds.class.getFields();
+        Check.same("public fields", open.length, 1);
+        for (Field field : open) {
+            Check.same("the public field", Modifier.toString(field.getModifiers()) + " "
+                    + field.getType() + " " + field.getName(), "public static final int NONE");
+        }
+        Check.same("NONE", AttributeKinds.NONE, -1);
     }
 
     private static void source() throws IOException {

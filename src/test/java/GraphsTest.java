@@ -12,6 +12,7 @@ final class GraphsTest {
         noAttributes();
         circlesHaveGraphsToo();
         overParts();
+        overThreeParts();
         oldBesideNew();
         ten();
         moreThanTen();
@@ -103,6 +104,25 @@ final class GraphsTest {
         Check.same("graphs(2)", x.graphs(2), 4);
         x.depend(both, 9, 19);
         Check.same("circular()", x.circular(), false);
+    }
+
+    /** "with a tree of each of its parts below it": each of three has a step of its own or not. */
+    private static void overThreeParts() {
+        AttributeKinds x = new AttributeKinds();
+        x.symbol(0, 0);
+        x.symbol(2, 1);
+        x.symbol(6, 7);
+        int leaf = x.production(1, NONE, NONE, NONE);
+        x.production(1, NONE, NONE, NONE);
+        int three = x.production(2, 1, 1, 1);
+        x.depend(leaf, 1, 0);
+        for (int part = 1; part <= 3; part++) {
+            Check.same("graphs(2) over " + (part - 1), x.graphs(2), 1 << part - 1);
+            x.depend(three, 2 + part, 8 * part + 1);
+            x.depend(three, 8 * part, part - 1);
+        }
+        Check.same("graphs(2) over 3", x.graphs(2), 8);
+        Check.same("graphs(1)", x.graphs(1), 2);
     }
 
     /** A graph that comes late is joined with one known long before, on either side. */

@@ -10,10 +10,12 @@ final class PassTest {
         partsInOrderInOnePass();
         onlyFromTheRight();
         inEachProduction();
+        ofAnyHead();
         alsoWithoutTrees();
         leftOverInTheMiddle();
         leftOverTwice();
         round();
+        roundAllEightSymbols();
         someBesideTheRest();
         noSuchSymbol();
         noSuchAttribute();
@@ -131,6 +133,31 @@ final class PassTest {
         }
     }
 
+    /** The same of each head, and of its own ups, though no tree of the root has it. */
+    private static void ofAnyHead() {
+        for (int head = 1; head < 8; head++) {
+            AttributeKinds x = new AttributeKinds();
+            x.symbol(0, 0);
+            for (int s = 1; s < 8; s++) {
+                x.symbol(2, 1);
+            }
+            int part = head == 7 ? 6 : 7;
+            x.production(0, NONE, NONE, NONE);
+            x.production(head, part, NONE, NONE);
+            x.depend(1, 8, 9);
+            numbers(x, part, false, 2, 1);
+            numbers(x, part, true, 2, 1);
+            numbers(x, head, false, 1, 1);
+            x.production(part, NONE, NONE, NONE);
+            x.depend(2, 1, 0);
+            x.depend(1, 1, 9);
+            numbers(x, part, false, NONE, NONE);
+            numbers(x, part, true, NONE, NONE);
+            numbers(x, head, false, 1, NONE);
+            numbers(x, head, true, 1, NONE);
+        }
+    }
+
     /** Productions whose parts have no trees bind as the others do. */
     private static void alsoWithoutTrees() {
         AttributeKinds x = new AttributeKinds();
@@ -196,6 +223,29 @@ final class PassTest {
         numbers(x, 0, false, 1);
         numbers(x, 1, false, NONE, NONE, NONE, NONE);
         numbers(x, 1, true, NONE, NONE, NONE, NONE);
+    }
+
+    /** "depends only on ..": one that can't be of the set takes others with it, far away. */
+    private static void roundAllEightSymbols() {
+        for (boolean topFirst : new boolean[] {true, false}) {
+            AttributeKinds x = Samples.ladder(topFirst);
+            int top = topFirst ? 0 : 7;
+            ladderHas(x, 1, 1);
+            x.depend(top, 8, 9);
+            ladderHas(x, 2, 1);
+            x.depend(7 - top, 1, 0);
+            ladderHas(x, NONE, NONE);
+            AttributeKinds other = Samples.ladder(topFirst);
+            other.depend(7 - top, 1, 0);
+            ladderHas(other, 1, 1);
+        }
+    }
+
+    private static void ladderHas(AttributeKinds x, int down, int up) {
+        for (int s = 1; s < 8; s++) {
+            numbers(x, s, false, down, up);
+            numbers(x, s, true, down, up);
+        }
     }
 
     /** "the rest have none": up 2, down 3 and up 4 have a number beside them. */

@@ -35,6 +35,28 @@ final class Samples {
         return x;
     }
 
+    /**
+     * All eight symbols, the root without attributes, the others as symbol 1 of the pair. Two
+     * leaves and what is above them, here of any head, are as in freeButNotStrongly, but for the
+     * step of production 2 from 8 to 11. The root has the head as a part, or has it in no tree.
+     */
+    static AttributeKinds nearlyRoundFor(int head, boolean underTheRoot) {
+        AttributeKinds x = new AttributeKinds();
+        x.symbol(0, 0);
+        for (int s = 1; s < 8; s++) {
+            x.symbol(4, 3);
+        }
+        int part = head == 7 ? 6 : 7;
+        int one = x.production(part, NONE, NONE, NONE);
+        int other = x.production(part, NONE, NONE, NONE);
+        int above = x.production(head, part, NONE, NONE);
+        x.production(0, underTheRoot ? head : NONE, NONE, NONE);
+        x.depend(one, 2, 0);
+        x.depend(other, 3, 1);
+        x.depend(above, 9, 10);
+        return x;
+    }
+
     /** Two places above symbol 1, each with one step down on up; together they go round. */
     static AttributeKinds stronglyButNotDoubly() {
         AttributeKinds x = pair();

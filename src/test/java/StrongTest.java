@@ -8,6 +8,7 @@ final class StrongTest {
         noTreesNoCircle();
         onlyWithAllParts();
         emptyIsOneToo();
+        ofAnySymbol();
         severalCircles();
         roundAllOfAProduction();
         roundAllEightSymbols();
@@ -77,6 +78,19 @@ final class StrongTest {
         strong("without the empty U", x, true);
         x.production(3, NONE, NONE, NONE);
         strong("with the empty U", x, false);
+    }
+
+    /** "no production": whichever symbol is its head, whether the root has it in a tree or not. */
+    private static void ofAnySymbol() {
+        for (int head = 0; head < 8; head++) {
+            for (boolean underTheRoot : new boolean[] {false, true}) {
+                AttributeKinds x = Samples.nearlyRoundFor(head, underTheRoot);
+                strong("but for a step of head " + head, x, true);
+                x.depend(2, 8, 11);
+                strong("with head " + head, x, false);
+                Check.same("circular()", x.circular(), false);
+            }
+        }
     }
 
     /** "no production .. has a circle": one, two, .. of them have. */
