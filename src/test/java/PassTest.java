@@ -67,23 +67,34 @@ final class PassTest {
      * are of the same pass or of none, and a part is neither before nor behind itself.
      */
     private static void partsInOrderInOnePass() {
-        for (int part = 1; part <= 3; part++) {
-            for (int on = 1; on <= 3; on++) {
-                AttributeKinds x = new AttributeKinds();
-                x.symbol(0, 0);
-                x.symbol(2, 1);
-                int leaf = x.production(1, NONE, NONE, NONE);
-                int three = x.production(1, 1, 1, 1);
-                x.depend(leaf, 1, 0);
-                for (int i = 1; i <= 3; i++) {
-                    x.depend(three, 8 * i, i == part ? 8 * on + 1 : 0);
-                    x.depend(three, 1, 8 * i + 1);
+        for (int down = 0; down < 6; down++) {
+            for (int up = 0; up < 6; up++) {
+                for (int i = 0; down != up && i < 9; i++) {
+                    inOnePass(down, up, 1 + i / 3, 1 + i % 3);
                 }
-                int fromLeft = on < part ? 1 : NONE;
-                int byTurns = on < part ? 1 : on > part ? 2 : NONE;
-                numbers(x, 1, false, fromLeft, fromLeft);
-                numbers(x, 1, true, byTurns, byTurns);
             }
+        }
+    }
+
+    /** Of six attributes one is up and depends on one down; a part's down depends on an up. */
+    private static void inOnePass(int down, int up, int part, int on) {
+        AttributeKinds x = new AttributeKinds();
+        x.symbol(0, 0);
+        x.symbol(6, 63 & ~(1 << up));
+        int leaf = x.production(1, NONE, NONE, NONE);
+        int three = x.production(1, 1, 1, 1);
+        x.depend(leaf, up, down);
+        for (int i = 1; i <= 3; i++) {
+            x.depend(three, 8 * i + down, i == part ? 8 * on + up : down);
+            x.depend(three, up, 8 * i + up);
+        }
+        int fromLeft = on < part ? 1 : NONE;
+        int byTurns = on < part ? 1 : on > part ? 2 : NONE;
+        for (int a = 0; a < 6; a++) {
+            boolean other = a != down && a != up;
+            String of = "pass(1, " + a + ", ";
+            Check.same(of + "false)", x.pass(1, a, false), other ? 1 : fromLeft);
+            Check.same(of + "true)", x.pass(1, a, true), other ? 1 : byTurns);
         }
     }
 

@@ -10,6 +10,7 @@ final class RelationTest {
         handedDown();
         overAllEightSymbols();
         twoAtOnce();
+        moreBehindMore();
         withoutThePartItself();
         everyBit();
         everyBitOverAPart();
@@ -117,6 +118,22 @@ final class RelationTest {
             relations(x, s, true, 2, 0);
             relations(x, s, false, 0, 0);
         }
+    }
+
+    /** All that is above symbol 2 brings something at once, and then something more. */
+    private static void moreBehindMore() {
+        AttributeKinds x = Samples.pair();
+        x.symbol(4, 3);
+        int middle = x.production(1, 2, NONE, NONE);
+        int top = x.production(0, 1, NONE, NONE);
+        x.production(2, NONE, NONE, NONE);
+        x.depend(middle, 8, 10);
+        x.depend(middle, 9, 1);
+        x.depend(middle, 3, 11);
+        relations(x, 2, true, 4, 0, 0, 0);
+        x.depend(top, 9, 11);
+        relations(x, 1, true, 0, 8, 0, 0);
+        relations(x, 2, true, 4, 8, 0, 0);
     }
 
     private static void ladderHas(AttributeKinds x, int upOnDown, int downOnUp) {
